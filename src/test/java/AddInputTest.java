@@ -1,79 +1,123 @@
+import java.util.ArrayList;
+import java.util.List;
+import java.util.function.Supplier;
+
 /** Promise 2: addInput. */
 public final class AddInputTest {
+    private static final List<States.State> REFUSING = new ArrayList<>();
+
     public static void main(String[] args) {
-        ordinalsFollowTheInputsOnly();
+        refusedWhenSealed();
+        refusedAtTheNodeLimit();
+        refusedAtTheInputLimit();
+        refusedForSeveralReasons();
+        refusedChangesNothing();
+        appends();
+        newNodeIsNoOutput();
         keepsWhatStands();
-        refusesWhenSealed();
-        refusesAtTheNodeLimit();
-        refusesAtTheInputLimit();
         Check.end();
     }
 
-    private static void ordinalsFollowTheInputsOnly() {
-        PodemTestGen x = new PodemTestGen(8, 3);
-        Check.due("first addInput()", x.addInput(), 0);
-        Check.due("addGate between inputs", x.addGate(PodemTestGen.KIND_NOT, 0, 0), 1);
-        Check.due("addInput() after a gate", x.addInput(), 2);
-        Check.due("third addInput()", x.addInput(), 3);
-        Check.due("nodeCount()", x.nodeCount(), 4);
-        for (int v = 0; v < 8; v++) {
-            Check.due("input 0 under " + v, x.evaluate(v, 0), v & 1);
-            Check.due("input 1 under " + v, x.evaluate(v, 2), v >> 1 & 1);
-            Check.due("input 2 under " + v, x.evaluate(v, 3), v >> 2 & 1);
+    private static void refusedWhenSealed() {
+        Check.sentence("1. sealed: answers -1;");
+        refused("sealed, with room for a node and an input", Nets::sealedWithRoom);
+        for (States.State state : States.sealed()) {
+            refused(state.name(), state.made());
         }
-        Check.due("evaluate(8, 0) with three inputs", x.evaluate(8, 0), -1);
+    }
+
+    private static void refusedAtTheNodeLimit() {
+        Check.sentence("2. nodeCount == nodeLimit: answers -1;");
+        for (int limit = 8; limit <= 32; limit++) {
+            int nodes = limit;
+            Check.due("addInput() one below node limit " + limit, Nets.inverters(limit, 10, limit - 1).addInput(), limit - 1);
+            refused("at node limit " + limit, () -> Nets.inverters(nodes, 10, nodes));
+        }
+        refused("at node limit 8, with eight inputs of ten", () -> Nets.inputs(8, 10, 8));
+    }
+
+    private static void refusedAtTheInputLimit() {
+        Check.sentence("3. inputCount == inputLimit: answers -1.");
+        for (int limit = 1; limit <= 10; limit++) {
+            int inputs = limit;
+            Check.due("addInput() one below input limit " + limit, Nets.inputs(32, limit, limit - 1).addInput(), limit - 1);
+            refused("at input limit " + limit, () -> Nets.inputs(32, inputs, inputs));
+        }
+        refused("at input limit 10, after gates", () -> Nets.parity(10));
+    }
+
+    private static void refusedForSeveralReasons() {
+        Check.sentence("Tests, in order:");
+        refused("at both limits", () -> Nets.inputs(8, 8, 8));
+        refused("sealed, at the node limit", () -> Nets.sealedAt(Nets.inverters(8, 10, 8), 0));
+        refused("sealed, at the input limit", () -> Nets.sealedAt(Nets.inputs(8, 2, 2), 0));
+        refused("sealed, at both limits", () -> Nets.sealedAt(Nets.inputs(8, 8, 8), 0));
+    }
+
+    private static void refusedChangesNothing() {
+        Check.sentence("A refused call changes nothing.");
+        for (States.State state : REFUSING) {
+            Unchanged.by("addInput() " + state.name(), state.made(), PodemTestGen::addInput);
+        }
+    }
+
+    private static void refused(String when, Supplier<PodemTestGen> made) {
+        PodemTestGen x = made.get();
+        Check.due("addInput() " + when, x.addInput(), -1);
+        Check.due("addInput() again, " + when, x.addInput(), -1);
+        REFUSING.add(new States.State(when, made));
+    }
+
+    private static void appends() {
+        Check.sentence("Otherwise it appends an input node with ordinal inputCount, increments nodeCount and inputCount,"
+            + " and answers the new node's index (the old nodeCount).");
+        PodemTestGen x = new PodemTestGen(32, 10);
+        for (int k = 0; k < 10; k++) {
+            Check.due("addInput() number " + k, x.addInput(), 2 * k);
+            Check.due("nodeKind of input " + k, x.nodeKind(2 * k), PodemTestGen.KIND_INPUT);
+            Check.due("nodeCount() with input " + k, x.nodeCount(), 2 * k + 1);
+            Check.due("addGate between inputs", x.addGate(PodemTestGen.KIND_NOT, 2 * k, 0), 2 * k + 1);
+            for (int v = 0; v < 2 << k; v++) {
+                Check.due("input " + k + " under " + v, x.evaluate(v, 2 * k), v >> k & 1);
+            }
+            Check.due("simulate past the last vector", x.simulate(2 << k), -1);
+        }
+        for (int k = 0; k < 10; k++) {
+            Check.due("input " + k + " alone", x.evaluate(1 << k, 2 * k), 1);
+            Check.due("every input but " + k, x.evaluate(1023 - (1 << k), 2 * k), 0);
+        }
+    }
+
+    private static void newNodeIsNoOutput() {
+        Check.sentence("The new node is not marked as output.");
+        PodemTestGen x = new PodemTestGen(8, 8);
+        for (int n = 0; n < 8; n++) {
+            x.markOutput(n);
+            x.addInput();
+            Check.due("isOutput of the new input " + n, x.isOutput(n), false);
+            x.markOutput(n);
+        }
     }
 
     private static void keepsWhatStands() {
-        PodemTestGen x = new PodemTestGen(8, 3);
-        x.addInput();
+        Check.sentence("Existing nodes, outputs and tests do not change.");
+        PodemTestGen x = Nets.inputs(8, 3, 1);
         x.addGate(PodemTestGen.KIND_NOT, 0, 0);
         x.markOutput(1);
         x.addInput();
-        Check.due("kind of the new node", x.nodeKind(2), PodemTestGen.KIND_INPUT);
-        Check.due("new input is an output", x.isOutput(2), false);
-        Check.due("old output stays one", x.isOutput(1), true);
-        Check.due("old input is no output", x.isOutput(0), false);
-        Check.due("old input's kind", x.nodeKind(0), PodemTestGen.KIND_INPUT);
-        Check.due("old gate's kind", x.nodeKind(1), PodemTestGen.KIND_NOT);
-        Check.due("old gate's value", x.evaluate(2, 1), 1);
+        x.addGate(PodemTestGen.KIND_NOR, 1, 2);
+        x.addInput();
+        int[] kinds = {8, 1, 8, 5, 8};
+        for (int n = 0; n < 5; n++) {
+            Check.due("nodeKind(" + n + ")", x.nodeKind(n), kinds[n]);
+            Check.due("isOutput(" + n + ")", x.isOutput(n), n == 1);
+        }
+        for (int v = 0; v < 8; v++) {
+            int not = 1 - (v & 1);
+            Check.due("the inverter under " + v, x.evaluate(v, 1), not);
+            Check.due("the NOR under " + v, x.evaluate(v, 3), 1 - (not | v >> 1 & 1));
+        }
         Check.due("testCount()", x.testCount(), 0);
-    }
-
-    private static void refusesWhenSealed() {
-        PodemTestGen x = Nets.redundant();
-        x.seal();
-        x.nextTest();
-        refused(x, "sealed");
-    }
-
-    private static void refusesAtTheNodeLimit() {
-        PodemTestGen x = new PodemTestGen(8, 10);
-        for (int n = 0; n < 8; n++) {
-            Check.due("addInput() below the node limit", x.addInput(), n);
-        }
-        refused(x, "at the node limit");
-        PodemTestGen y = new PodemTestGen(32, 10);
-        y.addInput();
-        for (int n = 1; n < 32; n++) {
-            y.addGate(PodemTestGen.KIND_BUF, 0, 0);
-        }
-        refused(y, "at the greatest node limit");
-    }
-
-    private static void refusesAtTheInputLimit() {
-        PodemTestGen x = new PodemTestGen(32, 10);
-        for (int n = 0; n < 10; n++) {
-            Check.due("addInput() below the input limit", x.addInput(), n);
-        }
-        refused(x, "at the input limit");
-        Check.due("a gate still fits", x.addGate(PodemTestGen.KIND_AND, 0, 9), 10);
-        refused(x, "at the input limit, after a gate");
-    }
-
-    private static void refused(PodemTestGen x, String when) {
-        String before = Picture.of(x);
-        Check.due("addInput() " + when, x.addInput(), -1);
-        Check.due("state after a refused addInput() " + when, Picture.of(x), before);
+        Check.due("testVector(0)", x.testVector(0), -1);
     }
 }

@@ -1,53 +1,24 @@
 /** Promise 15: detects. */
 public final class DetectsTest {
+    /** For each vector of Nets.redundant() the faults it detects, y for yes, worked out by hand. */
+    private static final String[] REDUNDANT = {"nnnnnynnnyny", "nnnynynynyny", "nynnnynnnyny", "ynynynnnnnyn"};
+
     public static void main(String[] args) {
-        redundantByHand();
-        withoutOutputs();
-        outputsAsTheyAreMarked();
+        currentNetlistAndOutputs();
         faultOfAnInputThatIsAnOutput();
-        outOfRange();
+        sealedOrNot();
+        whateverTheStatus();
+        vectorOutOfRange();
+        faultOutOfRange();
+        bothOutOfRange();
+        withoutOutputs();
+        changesNothing();
         Check.end();
     }
 
-    /** For each vector the faults it detects, y for yes, worked out by hand. */
-    private static void redundantByHand() {
-        String[] rows = {"nnnnnynnnynyn", "nnnynynynynyn", "nynnnynnnynyn", "ynynynnnnnynn"};
-        PodemTestGen x = Nets.redundant();
-        rows(x, rows, "before seal()");
-        x.seal();
-        rows(x, rows, "after seal()");
-        for (int i = 0; i < 12; i++) {
-            x.nextTest();
-        }
-        rows(x, rows, "after every fault");
-    }
-
-    private static void rows(PodemTestGen x, String[] rows, String when) {
-        String before = Picture.of(x);
-        for (int v = 0; v < 4; v++) {
-            for (int f = 0; f < 13; f++) {
-                Check.due("detects(" + v + ", " + f + ") " + when, x.detects(v, f), rows[v].charAt(f) == 'y');
-            }
-        }
-        Check.due("state after detects " + when, Picture.of(x), before);
-    }
-
-    private static void withoutOutputs() {
-        PodemTestGen x = new PodemTestGen(8, 2);
-        Check.due("detects(0, 0) without nodes", x.detects(0, 0), false);
-        x.addInput();
-        x.addInput();
-        x.addGate(PodemTestGen.KIND_XOR, 0, 1);
-        for (int v = 0; v < 4; v++) {
-            for (int f = 0; f < 6; f++) {
-                Check.due("detects without outputs", x.detects(v, f), false);
-            }
-        }
-    }
-
-    private static void outputsAsTheyAreMarked() {
-        PodemTestGen x = new PodemTestGen(8, 1);
-        x.addInput();
+    private static void currentNetlistAndOutputs() {
+        Check.sentence("`detects(v, f)` answers whether vector v detects fault f, for the current netlist and outputs.");
+        PodemTestGen x = Nets.inputs(8, 2, 1);
         x.addGate(PodemTestGen.KIND_NOT, 0, 0);
         x.addGate(PodemTestGen.KIND_NOT, 0, 0);
         x.markOutput(1);
@@ -57,11 +28,17 @@ public final class DetectsTest {
         Check.due("detects(0, 4) with outputs 1 and 2", x.detects(0, 4), true);
         Check.due("detects(0, 2) with outputs 1 and 2", x.detects(0, 2), true);
         Check.due("detects(0, 3) with outputs 1 and 2", x.detects(0, 3), false);
+        Check.due("detects(2, 2) with one input", x.detects(2, 2), false);
+        x.addInput();
+        Check.due("detects(2, 2) with two inputs", x.detects(2, 2), true);
+        Check.due("detects(0, 7) with an input that is no output", x.detects(0, 7), false);
+        x.markOutput(3);
+        Check.due("detects(0, 7) with an input that is an output", x.detects(0, 7), true);
     }
 
     private static void faultOfAnInputThatIsAnOutput() {
-        PodemTestGen x = new PodemTestGen(8, 1);
-        x.addInput();
+        Check.sentence("This holds for an input node too.");
+        PodemTestGen x = Nets.inputs(8, 1, 1);
         x.markOutput(0);
         Check.due("detects(0, 0)", x.detects(0, 0), false);
         Check.due("detects(0, 1)", x.detects(0, 1), true);
@@ -69,20 +46,117 @@ public final class DetectsTest {
         Check.due("detects(1, 1)", x.detects(1, 1), false);
     }
 
-    private static void outOfRange() {
+    private static void sealedOrNot() {
+        Check.sentence("Works whether or not the netlist is sealed");
         PodemTestGen x = Nets.redundant();
-        String before = Picture.of(x);
-        for (int wrong : Nets.WRONG) {
+        rows(x, "before seal()");
+        x.seal();
+        rows(x, "after seal()");
+    }
+
+    private static void whateverTheStatus() {
+        Check.sentence("does not depend on fault status.");
+        PodemTestGen x = Nets.sealedAt(Nets.redundant(), 5);
+        for (int i = 0; i <= 6; i++) {
+            rows(x, "after " + i + " nextTest()");
+            x.nextTest();
+        }
+    }
+
+    private static void rows(PodemTestGen x, String when) {
+        for (int v = 0; v < 4; v++) {
             for (int f = 0; f < 12; f++) {
-                Check.due("detects(" + wrong + ", " + f + ")", x.detects(wrong, f), false);
-            }
-            for (int v = 0; v < 4; v++) {
-                Check.due("detects(" + v + ", " + wrong + ")", x.detects(v, wrong), false);
+                Check.due("detects(" + v + ", " + f + ") " + when, x.detects(v, f), REDUNDANT[v].charAt(f) == 'y');
             }
         }
-        // 7 has the bits of 3, so a vector that were only masked would answer true.
-        Check.due("detects(7, 0)", x.detects(7, 0), false);
-        Check.due("detects(4, 11)", x.detects(4, 11), false);
-        Check.due("state after detects", Picture.of(x), before);
+    }
+
+    private static void vectorOutOfRange() {
+        Check.sentence("Answers false if v is out of range");
+        for (States.State state : States.all()) {
+            PodemTestGen x = state.made().get();
+            for (int v : Edges.outside(Nets.vectors(x))) {
+                for (int f = 0; f < 2 * x.nodeCount(); f++) {
+                    Check.due("detects(" + v + ", " + f + ") " + state.name(), x.detects(v, f), false);
+                }
+            }
+        }
+        // In a parity each vector shows one fault of every node, so each pair answers true once v is in range.
+        for (int inputs = 1; inputs <= 10; inputs++) {
+            PodemTestGen x = Nets.parity(inputs);
+            int end = 1 << inputs;
+            Check.due("detects(last, 0)", x.detects(end - 1, 0), true);
+            Check.due("detects(end, 0)", x.detects(end, 0), false);
+            Check.due("detects(end, 1)", x.detects(end, 1), false);
+            Check.due("detects(-1, 0)", x.detects(-1, 0), false);
+            Check.due("detects(-end, 1)", x.detects(-end, 1), false);
+        }
+    }
+
+    private static void faultOutOfRange() {
+        Check.sentence("or if f < 0 or f >= 2*nodeCount.");
+        for (States.State state : States.all()) {
+            PodemTestGen x = state.made().get();
+            int last = Nets.vectors(x) - 1;
+            for (int f : Edges.outside(2 * x.nodeCount())) {
+                Check.due("detects(0, " + f + ") " + state.name(), x.detects(0, f), false);
+                Check.due("detects(" + last + ", " + f + ") " + state.name(), x.detects(last, f), false);
+            }
+        }
+        // One input that is an output: whatever is taken for one of its faults shows under 0 or 1.
+        PodemTestGen x = Nets.sealedAt(Nets.inputs(8, 1, 1), 0);
+        for (int f : Edges.outside(2)) {
+            Check.due("detects(0, " + f + ")", x.detects(0, f), false);
+            Check.due("detects(1, " + f + ")", x.detects(1, f), false);
+        }
+    }
+
+    private static void bothOutOfRange() {
+        Check.sentence("Answers false if v is out of range, or if f < 0 or f >= 2*nodeCount.");
+        for (States.State state : States.all()) {
+            PodemTestGen x = state.made().get();
+            for (int v : Edges.outside(Nets.vectors(x))) {
+                for (int f : Edges.outside(2 * x.nodeCount())) {
+                    Check.due("detects(" + v + ", " + f + ") " + state.name(), x.detects(v, f), false);
+                }
+            }
+        }
+    }
+
+    private static void withoutOutputs() {
+        Check.sentence("With no output marked it answers false.");
+        for (int inputs = 0; inputs <= 10; inputs++) {
+            PodemTestGen x = Nets.inputs(32, 10, inputs);
+            for (int n = inputs; inputs > 0 && n < 32; n++) {
+                x.addGate(n % 8, n - 1, n - inputs);
+            }
+            for (int v = 0; v < 1 << inputs; v++) {
+                for (int f = 0; f < 64; f++) {
+                    Check.due("detects(" + v + ", " + f + ") without outputs", x.detects(v, f), false);
+                }
+            }
+        }
+    }
+
+    private static void changesNothing() {
+        Check.sentence("Changes nothing.");
+        for (States.State state : States.all()) {
+            Unchanged.by("detects " + state.name(), state.made(), DetectsTest::askAll);
+        }
+    }
+
+    private static void askAll(PodemTestGen x) {
+        int vectors = Nets.vectors(x);
+        for (int f = -1; f <= 2 * x.nodeCount(); f++) {
+            for (int v = -1; v <= vectors; v++) {
+                x.detects(v, f);
+            }
+            for (int v : Edges.outside(vectors)) {
+                x.detects(v, f);
+            }
+        }
+        for (int f : Edges.outside(2 * x.nodeCount())) {
+            x.detects(0, f);
+        }
     }
 }

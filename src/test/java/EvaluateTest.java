@@ -3,63 +3,138 @@ public final class EvaluateTest {
     public static void main(String[] args) {
         truthTables();
         parities();
-        vectorRangeGrowsWithTheInputs();
-        outOfRange();
+        currentNetlist();
+        sealedOrNot();
+        vectorOutOfRange();
+        nodeOutOfRange();
+        bothOutOfRange();
+        changesNothing();
         Check.end();
     }
 
     private static void truthTables() {
+        Check.sentence("BUF a; NOT 1-a; AND a&b; NAND 1-(a&b); OR a|b; NOR 1-(a|b); XOR a^b; XNOR 1-(a^b).");
         int[][] tables = {
             {0, 1, 0, 1}, {1, 0, 1, 0}, {0, 0, 0, 1}, {1, 1, 1, 0},
             {0, 1, 1, 1}, {1, 0, 0, 0}, {0, 1, 1, 0}, {1, 0, 0, 1}};
         for (int kind = 0; kind <= 7; kind++) {
             PodemTestGen x = Nets.oneGate(kind);
-            for (int sealed = 0; sealed < 2; sealed++) {
-                for (int v = 0; v < 4; v++) {
-                    Check.due("kind " + kind + " under " + v, x.evaluate(v, 2), tables[kind][v]);
-                    Check.due("input 0 under " + v, x.evaluate(v, 0), v & 1);
-                    Check.due("input 1 under " + v, x.evaluate(v, 1), v >> 1);
-                }
-                x.seal();
+            for (int v = 0; v < 4; v++) {
+                Check.due("kind " + kind + " under " + v, x.evaluate(v, 2), tables[kind][v]);
+                Check.due("input 0 under " + v, x.evaluate(v, 0), v & 1);
+                Check.due("input 1 under " + v, x.evaluate(v, 1), v >> 1);
             }
         }
     }
 
     private static void parities() {
+        Check.sentence("`evaluate(v, node)` answers the good-evaluation value (0 or 1) of node under vector v");
         PodemTestGen x = Nets.parity(10);
         for (int v = 0; v < 1024; v++) {
             Check.due("parity of " + v, x.evaluate(v, 18), Integer.bitCount(v) % 2);
+            Check.due("input 0 under " + v, x.evaluate(v, 0), v & 1);
             Check.due("input 9 under " + v, x.evaluate(v, 9), v >> 9);
         }
-        Check.due("evaluate(1024, 0)", x.evaluate(1024, 0), -1);
     }
 
-    private static void vectorRangeGrowsWithTheInputs() {
+    private static void currentNetlist() {
+        Check.sentence("for the current netlist.");
         PodemTestGen x = new PodemTestGen(32, 10);
         Check.due("evaluate(0, 0) without nodes", x.evaluate(0, 0), -1);
         for (int inputs = 1; inputs <= 10; inputs++) {
-            x.addInput();
-            int end = 1 << inputs;
-            Check.due("evaluate of the last vector", x.evaluate(end - 1, inputs - 1), 1);
-            Check.due("evaluate of vector 0", x.evaluate(0, inputs - 1), 0);
-            Check.due("evaluate one past the last vector", x.evaluate(end, inputs - 1), -1);
-            Check.due("evaluate one past the last node", x.evaluate(0, inputs), -1);
+            int last = (1 << inputs) - 1;
+            Check.due("the last vector, before its input", x.evaluate(last, 0), -1);
+            int node = x.addInput();
+            Check.due("the last vector", x.evaluate(last, node), 1);
+            Check.due("the new input's first vector", x.evaluate(1 << (inputs - 1), node), 1);
+            Check.due("the vector before it", x.evaluate((1 << (inputs - 1)) - 1, node), 0);
+            Check.due("a gate, before it is added", x.evaluate(last, node + 1), -1);
+            x.addGate(PodemTestGen.KIND_NOT, node, 0);
+            Check.due("a gate, once it is added", x.evaluate(last, node + 1), 0);
         }
     }
 
-    private static void outOfRange() {
+    private static void sealedOrNot() {
+        Check.sentence("Works whether or not the netlist is sealed.");
         PodemTestGen x = Nets.redundant();
-        x.seal();
-        x.nextTest();
-        String before = Picture.of(x);
-        for (int wrong : Nets.WRONG) {
-            Check.due("evaluate(" + wrong + ", 5)", x.evaluate(wrong, 5), -1);
-            Check.due("evaluate(3, " + wrong + ")", x.evaluate(3, wrong), -1);
-            Check.due("evaluate twice " + wrong, x.evaluate(wrong, wrong), -1);
+        for (int round = 0; round < 8; round++) {
+            for (int v = 0; v < 4; v++) {
+                int a = v & 1;
+                int[] values = {a, v >> 1, a & v >> 1, 1 - a, 0, a & v >> 1};
+                for (int n = 0; n < 6; n++) {
+                    Check.due("evaluate(" + v + ", " + n + ") in round " + round, x.evaluate(v, n), values[n]);
+                }
+            }
+            x.seal();
+            x.nextTest();
         }
-        Check.due("evaluate(3, 6)", x.evaluate(3, 6), -1);
-        Check.due("evaluate(4, 5)", x.evaluate(4, 5), -1);
-        Check.due("evaluate(3, 5)", x.evaluate(3, 5), 1);
-        Check.due("state after evaluate", Picture.of(x), before);
+    }
+
+    private static void vectorOutOfRange() {
+        Check.sentence("Answers -1 if v is out of range (v < 0 or v >= (1 << inputCount))");
+        for (States.State state : States.all()) {
+            PodemTestGen x = state.made().get();
+            for (int v : Edges.outside(Nets.vectors(x))) {
+                for (int node = 0; node < x.nodeCount(); node++) {
+                    Check.due("evaluate(" + v + ", " + node + ") " + state.name(), x.evaluate(v, node), -1);
+                }
+            }
+        }
+        for (int inputs = 1; inputs <= 10; inputs++) {
+            PodemTestGen x = Nets.inputs(32, 10, inputs);
+            for (int node = 0; node < inputs; node++) {
+                Check.due("evaluate of the last vector", x.evaluate((1 << inputs) - 1, node), 1);
+                Check.due("evaluate one past the last vector", x.evaluate(1 << inputs, node), -1);
+                Check.due("evaluate of -1", x.evaluate(-1, node), -1);
+            }
+        }
+    }
+
+    private static void nodeOutOfRange() {
+        Check.sentence("or if node < 0 or node >= nodeCount.");
+        for (States.State state : States.all()) {
+            PodemTestGen x = state.made().get();
+            int last = Nets.vectors(x) - 1;
+            for (int node : Edges.outside(x.nodeCount())) {
+                Check.due("evaluate(0, " + node + ") " + state.name(), x.evaluate(0, node), -1);
+                Check.due("evaluate(" + last + ", " + node + ") " + state.name(), x.evaluate(last, node), -1);
+            }
+            for (int node = 0; node < x.nodeCount(); node++) {
+                Check.due("evaluate(0, " + node + ") is told, " + state.name(), x.evaluate(0, node) >= 0, true);
+            }
+        }
+    }
+
+    private static void bothOutOfRange() {
+        Check.sentence("out of range (v < 0 or v >= (1 << inputCount)), or if node < 0 or node >= nodeCount.");
+        for (States.State state : States.all()) {
+            PodemTestGen x = state.made().get();
+            for (int v : Edges.outside(Nets.vectors(x))) {
+                for (int node : Edges.outside(x.nodeCount())) {
+                    Check.due("evaluate(" + v + ", " + node + ") " + state.name(), x.evaluate(v, node), -1);
+                }
+            }
+        }
+    }
+
+    private static void changesNothing() {
+        Check.sentence("Changes nothing.");
+        for (States.State state : States.all()) {
+            Unchanged.by("evaluate " + state.name(), state.made(), EvaluateTest::askAll);
+        }
+    }
+
+    private static void askAll(PodemTestGen x) {
+        for (int node = -1; node <= x.nodeCount(); node++) {
+            for (int v = -1; v <= Nets.vectors(x); v++) {
+                x.evaluate(v, node);
+            }
+            for (int v : Edges.outside(Nets.vectors(x))) {
+                x.evaluate(v, node);
+            }
+        }
+        for (int node : Edges.outside(x.nodeCount())) {
+            x.evaluate(0, node);
+        }
     }
 }

@@ -1,16 +1,71 @@
+import java.util.ArrayList;
+import java.util.List;
+
 /** Promise 6: nextTest. */
 public final class NextTestTest {
     public static void main(String[] args) {
-        redundantStepByStep();
-        nothingToDo();
+        refusedBeforeSeal();
+        refusedWithNoFaultLeft();
+        refusedChangesNothing();
+        stepByStep();
+        leastFault();
+        leastVector();
+        untestable();
         untestableChangesOneFaultAlone();
-        highestVector();
-        severalOutputs();
+        recordsATest();
+        marksWhatTheVectorDetects();
+        keepsWhatIsDecided();
+        earlierTestsStay();
+        endsInTime();
+        whatIsRecordedIsTrue();
         Check.end();
     }
 
+    private static void refusedBeforeSeal() {
+        Check.sentence("1. not sealed: answers RESULT_NONE;");
+        for (States.State state : States.open()) {
+            PodemTestGen x = state.made().get();
+            for (int i = 0; i < 3; i++) {
+                Check.due("nextTest() " + state.name(), x.nextTest(), PodemTestGen.RESULT_NONE);
+            }
+        }
+    }
+
+    private static void refusedWithNoFaultLeft() {
+        Check.sentence("2. no fault has STATUS_UNTRIED: answers RESULT_NONE.");
+        for (States.State state : done()) {
+            PodemTestGen x = state.made().get();
+            for (int f = 0; f < 2 * x.nodeCount(); f++) {
+                Check.due("fault " + f + " is left", x.faultStatus(f) == PodemTestGen.STATUS_UNTRIED, false);
+            }
+            for (int i = 0; i < 70; i++) {
+                Check.due("nextTest() " + state.name(), x.nextTest(), PodemTestGen.RESULT_NONE);
+            }
+        }
+    }
+
+    private static void refusedChangesNothing() {
+        Check.sentence("A refused call changes nothing.");
+        List<States.State> refusing = new ArrayList<>(States.open());
+        refusing.addAll(done());
+        for (States.State state : refusing) {
+            Unchanged.by("nextTest() " + state.name(), state.made(), PodemTestGen::nextTest);
+            Unchanged.by("many nextTest() " + state.name(), state.made(), x -> Nets.after(x, 70));
+        }
+    }
+
+    /** Sealed objects whose faults are all decided: tested alone, and tested or untestable. */
+    private static List<States.State> done() {
+        return List.of(
+            new States.State("after one node's faults", () -> Nets.after(Nets.sealedAt(Nets.inputs(8, 1, 1), 0), 2)),
+            new States.State("after redundant's faults", () -> Nets.after(Nets.sealedAt(Nets.redundant(), 5), 5)),
+            new States.State("after the faults of ten inputs", () -> Nets.after(Nets.sealedAt(Nets.parity(10), 18), 38)),
+            new States.State("after 64 faults", () -> Nets.after(Nets.sealedAt(Nets.inverters(32, 1, 32), 0), 64)));
+    }
+
     /** Worked out by hand: after each call the status and detecting test of every fault. */
-    private static void redundantStepByStep() {
+    private static void stepByStep() {
+        Check.sentence("`nextTest()` handles one fault.");
         PodemTestGen x = Nets.redundant();
         x.seal();
         step(x, 3, "1 0 1 0 1 0 0 0 0 0 1 0", "0 - 0 - 0 - - - - - 0 -");
@@ -40,81 +95,231 @@ public final class NextTestTest {
         Check.due("detecting tests after nextTest()", by.toString(), detectors);
     }
 
-    private static void nothingToDo() {
-        PodemTestGen x = Nets.redundant();
-        noneLeft(x, "before seal()");
-        x.seal();
-        for (int i = 0; i < 12; i++) {
-            x.nextTest();
+    private static void leastFault() {
+        Check.sentence("Otherwise let f be the least fault index with STATUS_UNTRIED");
+        for (PodemTestGen x : sealedNets()) {
+            for (int f = leastUntried(x); f >= 0; f = leastUntried(x)) {
+                int answer = x.nextTest();
+                Check.due("status of the least untried fault " + f,
+                    x.faultStatus(f), answer >= 0 ? PodemTestGen.STATUS_DETECTED : PodemTestGen.STATUS_UNTESTABLE);
+                if (answer >= 0) {
+                    Check.due("testTarget of the new test", x.testTarget(x.testCount() - 1), f);
+                }
+                if (x.faultStatus(f) == PodemTestGen.STATUS_UNTRIED) {
+                    break;
+                }
+            }
         }
-        noneLeft(x, "after every fault");
     }
 
-    private static void noneLeft(PodemTestGen x, String when) {
-        for (int i = 0; i < 3; i++) {
-            String before = Picture.of(x);
-            Check.due("nextTest() " + when, x.nextTest(), PodemTestGen.RESULT_NONE);
-            Check.due("state after nextTest() " + when, Picture.of(x), before);
+    private static void leastVector() {
+        Check.sentence("v the least vector (in [0, 1 << inputCount)) that detects f.");
+        for (PodemTestGen x : sealedNets()) {
+            for (int i = 0; i < 64; i++) {
+                int f = leastUntried(x);
+                Check.due("nextTest() for fault " + f, x.nextTest(), f < 0 ? PodemTestGen.RESULT_NONE : leastDetecting(x, f));
+            }
         }
+        PodemTestGen and = Nets.sealedAt(Nets.chain(PodemTestGen.KIND_AND, 10), 18);
+        Check.due("nextTest() that needs the last vector", and.nextTest(), 1023);
+        for (int k = 0; k < 10; k++) {
+            Check.due("nextTest() for input " + k + " stuck at 1", and.nextTest(), 1023 - (1 << k));
+        }
+        PodemTestGen or = Nets.sealedAt(Nets.chain(PodemTestGen.KIND_OR, 10), 18);
+        Check.due("nextTest() for input 0 stuck at 0", or.nextTest(), 1);
+        Check.due("nextTest() that needs vector 0", or.nextTest(), 0);
     }
 
-    /** Nodes 1 to 31 reach no output, so their 62 faults are untestable, one at a call. */
-    private static void untestableChangesOneFaultAlone() {
-        PodemTestGen x = new PodemTestGen(32, 1);
-        x.addInput();
-        for (int n = 1; n < 32; n++) {
-            x.addGate(PodemTestGen.KIND_NOT, 0, 0);
-        }
-        x.markOutput(0);
-        x.seal();
-        Check.due("nextTest() for fault 0", x.nextTest(), 1);
-        Check.due("nextTest() for fault 1", x.nextTest(), 0);
+    private static void untestable() {
+        Check.sentence("If there is no such v: f gets STATUS_UNTESTABLE, and the call answers RESULT_UNTESTABLE.");
+        PodemTestGen x = Nets.after(Nets.sealedAt(Nets.inverters(32, 1, 32), 0), 2);
         for (int f = 2; f < 64; f++) {
             Check.due("nextTest() for fault " + f, x.nextTest(), PodemTestGen.RESULT_UNTESTABLE);
             Check.due("faultStatus(" + f + ")", x.faultStatus(f), PodemTestGen.STATUS_UNTESTABLE);
+        }
+        PodemTestGen wide = Nets.parity(10);
+        int zero = wide.addGate(PodemTestGen.KIND_XOR, 18, 18);
+        Nets.after(Nets.sealedAt(wide, zero), 64);
+        Check.due("status of a node that is always 0 stuck at 0", wide.faultStatus(2 * zero), PodemTestGen.STATUS_UNTESTABLE);
+        Check.due("status of a node that is always 0 stuck at 1", wide.faultStatus(2 * zero + 1), PodemTestGen.STATUS_DETECTED);
+    }
+
+    private static void untestableChangesOneFaultAlone() {
+        Check.sentence("Its detectedBy stays -1. No test is recorded and no other fault changes.");
+        PodemTestGen x = Nets.after(Nets.sealedAt(Nets.inverters(32, 1, 32), 0), 2);
+        for (int f = 2; f < 64; f++) {
+            x.nextTest();
             Check.due("detectedBy(" + f + ")", x.detectedBy(f), -1);
-            Check.due("faultStatus(" + (f + 1) + ")", x.faultStatus(f + 1), f == 63 ? -1 : 0);
             Check.due("testCount()", x.testCount(), 2);
+            Check.due("testVector(2)", x.testVector(2), -1);
+            for (int g = 0; g < 64; g++) {
+                int status = g < 2 ? PodemTestGen.STATUS_DETECTED : g <= f ? PodemTestGen.STATUS_UNTESTABLE : PodemTestGen.STATUS_UNTRIED;
+                Check.due("faultStatus(" + g + ") after fault " + f, x.faultStatus(g), status);
+                Check.due("detectedBy(" + g + ") after fault " + f, x.detectedBy(g), g < 2 ? g : -1);
+            }
         }
-        noneLeft(x, "after 64 faults");
     }
 
-    /** An AND of all ten inputs: only the last vector, 1023, shows an input stuck at 0. */
-    private static void highestVector() {
-        PodemTestGen x = new PodemTestGen(32, 10);
-        for (int k = 0; k < 10; k++) {
-            x.addInput();
+    private static void recordsATest() {
+        Check.sentence("A test is appended at index t = testCount, with vector v and target f, and testCount is incremented.");
+        for (PodemTestGen x : sealedNets()) {
+            for (int i = 0; i < 64; i++) {
+                int f = leastUntried(x);
+                int t = x.testCount();
+                int answer = x.nextTest();
+                Check.due("testCount()", x.testCount(), answer >= 0 ? t + 1 : t);
+                Check.due("testVector(" + t + ")", x.testVector(t), answer >= 0 ? answer : -1);
+                Check.due("testTarget(" + t + ")", x.testTarget(t), answer >= 0 ? f : -1);
+            }
         }
-        int last = 0;
-        for (int k = 1; k < 10; k++) {
-            last = x.addGate(PodemTestGen.KIND_AND, last, k);
-        }
-        x.markOutput(last);
-        x.seal();
-        Check.due("nextTest() for fault 0", x.nextTest(), 1023);
-        for (int k = 0; k < 10; k++) {
-            Check.due("nextTest() for input " + k + " stuck at 1", x.nextTest(), 1023 - (1 << k));
-            Check.due("testTarget", x.testTarget(k + 1), 2 * k + 1);
-        }
-        Check.due("nextTest() at the end", x.nextTest(), PodemTestGen.RESULT_NONE);
-        Check.due("testCount()", x.testCount(), 11);
     }
 
-    /** Half adder: the sum alone shows input faults at vectors where the carry stays. */
-    private static void severalOutputs() {
-        PodemTestGen x = new PodemTestGen(8, 2);
-        x.addInput();
-        x.addInput();
-        x.addGate(PodemTestGen.KIND_XOR, 0, 1);
-        x.addGate(PodemTestGen.KIND_AND, 0, 1);
-        x.markOutput(3);
-        x.markOutput(2);
-        x.seal();
-        Check.due("nextTest() for fault 0", x.nextTest(), 1);
-        Check.due("nextTest() for fault 1", x.nextTest(), 0);
-        Check.due("nextTest() for fault 2", x.nextTest(), 2);
-        Check.due("nextTest() for fault 6", x.nextTest(), 3);
-        Check.due("testTarget(3)", x.testTarget(3), 6);
-        Check.due("nextTest() at the end", x.nextTest(), PodemTestGen.RESULT_NONE);
+    private static void marksWhatTheVectorDetects() {
+        Check.sentence("Every fault g with STATUS_UNTRIED that v detects (f among them) gets STATUS_DETECTED and detectedBy t.");
+        for (PodemTestGen x : sealedNets()) {
+            for (int i = 0; i < 64; i++) {
+                int t = x.testCount();
+                int[] statuses = statuses(x);
+                int v = x.nextTest();
+                for (int g = 0; v >= 0 && g < statuses.length; g++) {
+                    if (statuses[g] == PodemTestGen.STATUS_UNTRIED) {
+                        boolean found = x.detects(v, g);
+                        Check.due("faultStatus(" + g + ")", x.faultStatus(g), found ? PodemTestGen.STATUS_DETECTED : PodemTestGen.STATUS_UNTRIED);
+                        Check.due("detectedBy(" + g + ")", x.detectedBy(g), found ? t : -1);
+                    }
+                }
+            }
+        }
+    }
+
+    private static void keepsWhatIsDecided() {
+        Check.sentence("Faults that already have STATUS_DETECTED or STATUS_UNTESTABLE keep their status and detectedBy.");
+        for (PodemTestGen x : sealedNets()) {
+            for (int i = 0; i < 66; i++) {
+                int[] statuses = statuses(x);
+                int[] detectors = detectors(x);
+                x.nextTest();
+                for (int g = 0; g < statuses.length; g++) {
+                    if (statuses[g] != PodemTestGen.STATUS_UNTRIED) {
+                        Check.due("faultStatus(" + g + ")", x.faultStatus(g), statuses[g]);
+                        Check.due("detectedBy(" + g + ")", x.detectedBy(g), detectors[g]);
+                    }
+                }
+            }
+        }
+    }
+
+    private static void earlierTestsStay() {
+        Check.sentence("Earlier tests do not change.");
+        for (PodemTestGen x : sealedNets()) {
+            List<int[]> tests = new ArrayList<>();
+            for (int i = 0; i < 66; i++) {
+                x.nextTest();
+                for (int t = 0; t < tests.size(); t++) {
+                    Check.due("testVector(" + t + ")", x.testVector(t), tests.get(t)[0]);
+                    Check.due("testTarget(" + t + ")", x.testTarget(t), tests.get(t)[1]);
+                }
+                if (x.testCount() > tests.size()) {
+                    tests.add(new int[] {x.testVector(tests.size()), x.testTarget(tests.size())});
+                }
+            }
+        }
+    }
+
+    private static void endsInTime() {
+        Check.sentence("A fault never returns to STATUS_UNTRIED,"
+            + " so after at most 2*nodeCount handling calls every further call answers RESULT_NONE.");
+        for (int nodes = 1; nodes <= 32; nodes++) {
+            PodemTestGen x = Nets.sealedAt(Nets.inverters(32, 1, nodes), 0);
+            for (int i = 0; i < 2 * nodes; i++) {
+                Check.due("handling call " + i + " of " + nodes + " nodes", x.nextTest() != PodemTestGen.RESULT_NONE, true);
+            }
+            for (int i = 0; i < 10; i++) {
+                Check.due("a further call", x.nextTest(), PodemTestGen.RESULT_NONE);
+            }
+        }
+        for (PodemTestGen x : sealedNets()) {
+            int left = 2 * x.nodeCount();
+            for (int i = 0; i < 2 * x.nodeCount(); i++) {
+                x.nextTest();
+                int[] statuses = statuses(x);
+                int untried = 0;
+                for (int status : statuses) {
+                    untried += status == PodemTestGen.STATUS_UNTRIED ? 1 : 0;
+                }
+                Check.due("a fault was handled", untried < left || untried == 0, true);
+                left = untried;
+            }
+            Check.due("faults left", left, 0);
+            Check.due("a further call", x.nextTest(), PodemTestGen.RESULT_NONE);
+        }
+    }
+
+    private static void whatIsRecordedIsTrue() {
+        Check.sentence("every recorded test's vector detects its target, and every fault with STATUS_UNTESTABLE is detected by no vector in range.");
+        for (PodemTestGen x : sealedNets()) {
+            Nets.after(x, 64);
+            for (int t = 0; t < x.testCount(); t++) {
+                Check.due("test " + t + " detects its target", x.detects(x.testVector(t), x.testTarget(t)), true);
+            }
+            for (int f = 0; f < 2 * x.nodeCount(); f++) {
+                boolean untestable = x.faultStatus(f) == PodemTestGen.STATUS_UNTESTABLE;
+                Check.due("some vector detects fault " + f, leastDetecting(x, f) >= 0, !untestable);
+                if (!untestable) {
+                    Check.due("its test detects fault " + f, x.detects(x.testVector(x.detectedBy(f)), f), true);
+                }
+            }
+        }
+    }
+
+    /** New sealed objects: one of each gate, one output and several, one input and ten, testable or not. */
+    private static List<PodemTestGen> sealedNets() {
+        List<PodemTestGen> nets = new ArrayList<>();
+        for (int kind = 0; kind <= 7; kind++) {
+            nets.add(Nets.sealedAt(Nets.oneGate(kind), 2));
+            nets.add(Nets.sealedAt(Nets.chain(kind, 5), 8));
+        }
+        nets.add(Nets.sealedAt(Nets.redundant(), 5));
+        nets.add(Nets.sealedAt(Nets.redundant(), 3));
+        nets.add(Nets.sealedAt(Nets.inputs(8, 1, 1), 0));
+        nets.add(Nets.sealedAt(Nets.inverters(32, 1, 32), 31));
+        nets.add(Nets.sealedAt(Nets.parity(10), 18));
+        nets.add(Nets.sealedAt(Nets.chain(PodemTestGen.KIND_NAND, 10), 12));
+        return nets;
+    }
+
+    private static int leastUntried(PodemTestGen x) {
+        for (int f = 0; f < 2 * x.nodeCount(); f++) {
+            if (x.faultStatus(f) == PodemTestGen.STATUS_UNTRIED) {
+                return f;
+            }
+        }
+        return -1;
+    }
+
+    /** The least vector in range that detects f, or -1. */
+    private static int leastDetecting(PodemTestGen x, int f) {
+        for (int v = 0; v < Nets.vectors(x); v++) {
+            if (x.detects(v, f)) {
+                return v;
+            }
+        }
+        return -1;
+    }
+
+    private static int[] statuses(PodemTestGen x) {
+        int[] statuses = new int[2 * x.nodeCount()];
+        for (int f = 0; f < statuses.length; f++) {
+            statuses[f] = x.faultStatus(f);
+        }
+        return statuses;
+    }
+
+    private static int[] detectors(PodemTestGen x) {
+        int[] detectors = new int[2 * x.nodeCount()];
+        for (int f = 0; f < detectors.length; f++) {
+            detectors[f] = x.detectedBy(f);
+        }
+        return detectors;
     }
 }

@@ -1,68 +1,154 @@
+import java.util.function.Supplier;
+import java.util.ArrayList;
+import java.util.List;
+
 /** Promise 5: seal. */
 public final class SealTest {
+    private static final List<States.State> REFUSING = new ArrayList<>();
+
     public static void main(String[] args) {
-        faultsAtFirst();
-        refusals();
-        aRefusedSealLeavesItOpen();
+        refusedWhenSealed();
+        refusedWithoutInputs();
+        refusedWithoutOutputs();
+        refusedChangesNothing();
+        seals();
+        untriedAtFirst();
         freezes();
+        staysFixed();
         Check.end();
     }
 
-    private static void faultsAtFirst() {
-        PodemTestGen x = Nets.parity(10);
-        Check.due("seal()", x.seal(), true);
-        Check.due("testCount()", x.testCount(), 0);
-        for (int f = 0; f < 38; f++) {
-            Check.due("faultStatus(" + f + ")", x.faultStatus(f), PodemTestGen.STATUS_UNTRIED);
-            Check.due("detectedBy(" + f + ")", x.detectedBy(f), -1);
+    private static void refusedWhenSealed() {
+        Check.sentence("1. already sealed: answers false;");
+        for (States.State state : States.sealed()) {
+            refused(state.name(), state.made());
         }
-        Check.due("faultStatus(38)", x.faultStatus(38), -1);
     }
 
-    private static void refusals() {
-        PodemTestGen empty = new PodemTestGen(8, 1);
-        refused(empty, "on an empty netlist");
-        PodemTestGen bare = new PodemTestGen(8, 1);
-        bare.addInput();
-        bare.addGate(PodemTestGen.KIND_NOT, 0, 0);
-        refused(bare, "without an output");
-        PodemTestGen x = Nets.redundant();
-        x.seal();
-        refused(x, "when sealed");
-        x.nextTest();
-        refused(x, "when sealed, with a test");
-        for (int i = 0; i < 12; i++) {
-            x.nextTest();
+    private static void refusedWithoutInputs() {
+        Check.sentence("2. inputCount == 0: answers false;");
+        refused("on an empty netlist", () -> new PodemTestGen(8, 1));
+        refused("on an empty netlist", () -> new PodemTestGen(32, 10));
+        refused("after refused gates and marks", SealTest::refusedGatesAndMarks);
+        PodemTestGen x = Nets.inputs(8, 1, 1);
+        x.markOutput(0);
+        Check.due("seal() with one input", x.seal(), true);
+    }
+
+    private static void refusedWithoutOutputs() {
+        Check.sentence("3. no node is marked as output: answers false.");
+        for (int inputs = 1; inputs <= 10; inputs++) {
+            int made = inputs;
+            refused("with " + inputs + " inputs alone", () -> Nets.inputs(32, 10, made));
         }
-        refused(x, "when sealed, with no fault left");
+        refused("with gates, none marked", () -> Nets.inverters(8, 1, 8));
+        refused("with 32 nodes, none marked", () -> Nets.inverters(32, 1, 32));
+        refused("after refused marks", SealTest::refusedMarks);
+        for (int node = 0; node < 32; node++) {
+            PodemTestGen x = Nets.inverters(32, 1, 32);
+            x.markOutput(node);
+            Check.due("seal() with output " + node + " alone", x.seal(), true);
+        }
     }
 
-    private static void refused(PodemTestGen x, String when) {
-        String before = Picture.of(x);
-        Check.due("seal() " + when, x.seal(), false);
-        Check.due("state after seal() " + when, Picture.of(x), before);
+    private static PodemTestGen refusedGatesAndMarks() {
+        PodemTestGen x = new PodemTestGen(8, 1);
+        x.addGate(PodemTestGen.KIND_NOT, 0, 0);
+        x.markOutput(0);
+        return x;
     }
 
-    private static void aRefusedSealLeavesItOpen() {
+    private static PodemTestGen refusedMarks() {
+        PodemTestGen x = Nets.inverters(8, 2, 3);
+        x.markOutput(-1);
+        x.markOutput(3);
+        return x;
+    }
+
+    private static void refusedChangesNothing() {
+        Check.sentence("A refused call changes nothing.");
+        for (States.State state : REFUSING) {
+            Unchanged.by("seal() " + state.name(), state.made(), PodemTestGen::seal);
+        }
         PodemTestGen x = new PodemTestGen(8, 2);
         x.seal();
         Check.due("addInput() after a refused seal()", x.addInput(), 0);
         x.seal();
         Check.due("addGate after a refused seal()", x.addGate(PodemTestGen.KIND_NOT, 0, 0), 1);
+        x.seal();
+        Check.due("faultStatus(0) after a refused seal()", x.faultStatus(0), -1);
         Check.due("markOutput after a refused seal()", x.markOutput(1), true);
         Check.due("seal() at last", x.seal(), true);
     }
 
+    private static void refused(String when, Supplier<PodemTestGen> made) {
+        PodemTestGen x = made.get();
+        Check.due("seal() " + when, x.seal(), false);
+        Check.due("seal() again, " + when, x.seal(), false);
+        REFUSING.add(new States.State(when, made));
+    }
+
+    private static void seals() {
+        Check.sentence("and the call answers true.");
+        Check.due("seal() of one node", sealable(Nets.inputs(8, 1, 1), 0).seal(), true);
+        Check.due("seal() of ten inputs", sealable(Nets.inputs(32, 10, 10), 9).seal(), true);
+        Check.due("seal() of 32 nodes", sealable(Nets.inverters(32, 1, 32), 31).seal(), true);
+    }
+
+    private static PodemTestGen sealable(PodemTestGen x, int output) {
+        x.markOutput(output);
+        return x;
+    }
+
+    private static void untriedAtFirst() {
+        Check.sentence("every fault 0..2*nodeCount-1 gets STATUS_UNTRIED with detectedBy -1, testCount is 0");
+        for (int nodes = 1; nodes <= 32; nodes++) {
+            PodemTestGen x = Nets.sealedAt(Nets.inverters(32, 1, nodes), nodes - 1);
+            for (int f = 0; f < 2 * nodes; f++) {
+                Check.due("faultStatus(" + f + ") of " + nodes + " nodes", x.faultStatus(f), PodemTestGen.STATUS_UNTRIED);
+                Check.due("detectedBy(" + f + ") of " + nodes + " nodes", x.detectedBy(f), -1);
+            }
+            Check.due("faultStatus past the last", x.faultStatus(2 * nodes), -1);
+            Check.due("testCount()", x.testCount(), 0);
+            Check.due("testVector(0)", x.testVector(0), -1);
+        }
+    }
+
     private static void freezes() {
-        PodemTestGen x = new PodemTestGen(32, 10);
-        x.addInput();
-        x.addGate(PodemTestGen.KIND_BUF, 0, 0);
-        x.markOutput(1);
-        x.seal();
-        String before = Picture.of(x);
-        Check.due("addInput() when sealed", x.addInput(), -1);
-        Check.due("addGate when sealed", x.addGate(PodemTestGen.KIND_BUF, 0, 0), -1);
-        Check.due("markOutput when sealed", x.markOutput(0), false);
-        Check.due("state when sealed", Picture.of(x), before);
+        Check.sentence("From then on `addInput`, `addGate` and `markOutput` refuse every call");
+        PodemTestGen x = Nets.sealedWithRoom();
+        for (int i = 0; i < 70; i++) {
+            Check.due("addInput() when sealed", x.addInput(), -1);
+            for (int kind = -1; kind <= 8; kind++) {
+                Check.due("addGate of kind " + kind + " when sealed", x.addGate(kind, 0, 1), -1);
+            }
+            for (int node = -1; node <= 2; node++) {
+                Check.due("markOutput(" + node + ") when sealed", x.markOutput(node), false);
+            }
+            x.nextTest();
+        }
+    }
+
+    private static void staysFixed() {
+        Check.sentence("so nodes, kinds, operands, inputCount and outputs stay fixed for the life of the object.");
+        PodemTestGen x = Nets.sealedAt(Nets.redundant(), 5);
+        for (int i = 0; i < 20; i++) {
+            x.addInput();
+            x.addGate(i % 8, 1, 0);
+            x.markOutput(i % 6);
+            x.seal();
+            x.nextTest();
+            int[] kinds = {8, 8, 2, 1, 2, 4};
+            for (int n = 0; n < 6; n++) {
+                Check.due("nodeKind(" + n + ")", x.nodeKind(n), kinds[n]);
+                Check.due("isOutput(" + n + ")", x.isOutput(n), n == 5);
+            }
+            Check.due("nodeCount()", x.nodeCount(), 6);
+            Check.due("simulate(4)", x.simulate(4), -1);
+            for (int v = 0; v < 4; v++) {
+                Check.due("evaluate(" + v + ", 5)", x.evaluate(v, 5), v == 3 ? 1 : 0);
+                Check.due("evaluate(" + v + ", 3)", x.evaluate(v, 3), 1 - (v & 1));
+            }
+        }
     }
 }

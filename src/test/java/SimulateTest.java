@@ -1,58 +1,104 @@
 /** Promise 16: simulate. */
 public final class SimulateTest {
     public static void main(String[] args) {
-        redundantByHand();
-        withoutOutputs();
-        everyFaultOfAParity();
-        outOfRange();
+        whateverTheStatus();
+        equalsDetects();
+        leastAndMost();
+        sealedOrNot();
+        vectorOutOfRange();
+        changesNothing();
         Check.end();
     }
 
-    private static void redundantByHand() {
-        PodemTestGen x = Nets.redundant();
-        counts(x, "before seal()");
-        x.seal();
-        for (int i = 0; i < 7; i++) {
-            counts(x, "after " + i + " nextTest()");
+    private static void whateverTheStatus() {
+        Check.sentence("answers how many faults f in [0, 2*nodeCount) the vector v detects, whatever their status.");
+        PodemTestGen x = Nets.sealedAt(Nets.redundant(), 5);
+        int[] counts = {3, 5, 4, 4};
+        for (int i = 0; i <= 6; i++) {
+            for (int v = 0; v < 4; v++) {
+                Check.due("simulate(" + v + ") after " + i + " nextTest()", x.simulate(v), counts[v]);
+            }
             x.nextTest();
         }
     }
 
-    private static void counts(PodemTestGen x, String when) {
-        int[] counts = {3, 5, 4, 4};
-        String before = Picture.of(x);
-        for (int v = 0; v < 4; v++) {
-            Check.due("simulate(" + v + ") " + when, x.simulate(v), counts[v]);
+    private static void equalsDetects() {
+        Check.sentence("equals the number of f in that range for which `detects(v, f)` is true.");
+        for (States.State state : States.all()) {
+            PodemTestGen x = state.made().get();
+            for (int v = 0; v < Nets.vectors(x); v++) {
+                int count = 0;
+                for (int f = 0; f < 2 * x.nodeCount(); f++) {
+                    count += x.detects(v, f) ? 1 : 0;
+                }
+                Check.due("simulate(" + v + ") " + state.name(), x.simulate(v), count);
+            }
         }
-        Check.due("simulate(4) " + when, x.simulate(4), -1);
-        Check.due("state after simulate " + when, Picture.of(x), before);
     }
 
-    private static void withoutOutputs() {
-        PodemTestGen x = new PodemTestGen(8, 2);
-        Check.due("simulate(0) without nodes", x.simulate(0), 0);
-        Check.due("simulate(1) without nodes", x.simulate(1), -1);
-        Check.due("simulate(-1) without nodes", x.simulate(-1), -1);
-        x.addInput();
-        Check.due("simulate(0) without outputs", x.simulate(0), 0);
-        Check.due("simulate(1) without outputs", x.simulate(1), 0);
-        Check.due("simulate(2) with one input", x.simulate(2), -1);
-    }
-
-    /** In an XOR chain one of the two faults of every node shows under every vector. */
-    private static void everyFaultOfAParity() {
-        PodemTestGen x = Nets.parity(10);
-        for (int v = 0; v < 1024; v += 11) {
-            Check.due("simulate(" + v + ")", x.simulate(v), 19);
+    private static void leastAndMost() {
+        Check.sentence("The answer is in [0, 2*nodeCount]");
+        Check.due("simulate(0) without nodes", new PodemTestGen(8, 1).simulate(0), 0);
+        for (int inputs = 1; inputs <= 10; inputs++) {
+            PodemTestGen bare = Nets.inputs(32, 10, inputs);
+            PodemTestGen parity = Nets.parity(inputs);
+            for (int v = 0; v < 1 << inputs; v++) {
+                Check.due("simulate(" + v + ") without outputs", bare.simulate(v), 0);
+                // In an XOR chain one of the two faults of every node shows under every vector.
+                Check.due("simulate(" + v + ") of a parity", parity.simulate(v), 2 * inputs - 1);
+            }
         }
-        Check.due("simulate(1023)", x.simulate(1023), 19);
-        Check.due("simulate(1024)", x.simulate(1024), -1);
+        PodemTestGen full = Nets.inverters(32, 1, 32);
+        for (int n = 0; n < 32; n++) {
+            full.markOutput(n);
+        }
+        Check.due("simulate(0) of 32 outputs", full.simulate(0), 32);
+        Check.due("simulate(1) of 32 outputs", full.simulate(1), 32);
     }
 
-    private static void outOfRange() {
+    private static void sealedOrNot() {
+        Check.sentence("Works whether or not the netlist is sealed.");
         PodemTestGen x = Nets.redundant();
-        for (int v : Nets.WRONG) {
-            Check.due("simulate(" + v + ")", x.simulate(v), -1);
+        int[] counts = {3, 5, 4, 4};
+        for (int round = 0; round < 2; round++) {
+            for (int v = 0; v < 4; v++) {
+                Check.due("simulate(" + v + "), sealed in round 1, round " + round, x.simulate(v), counts[v]);
+            }
+            x.seal();
+        }
+    }
+
+    private static void vectorOutOfRange() {
+        Check.sentence("Answers -1 if v is out of range.");
+        for (States.State state : States.all()) {
+            PodemTestGen x = state.made().get();
+            for (int v : Edges.outside(Nets.vectors(x))) {
+                Check.due("simulate(" + v + ") " + state.name(), x.simulate(v), -1);
+            }
+        }
+        for (int inputs = 0; inputs <= 10; inputs++) {
+            PodemTestGen x = Nets.inputs(32, 10, inputs);
+            Check.due("simulate(0) with " + inputs + " inputs", x.simulate(0), 0);
+            Check.due("simulate of the last vector with " + inputs + " inputs", x.simulate((1 << inputs) - 1), 0);
+            for (int v : Edges.outside(1 << inputs)) {
+                Check.due("simulate(" + v + ") with " + inputs + " inputs", x.simulate(v), -1);
+            }
+        }
+    }
+
+    private static void changesNothing() {
+        Check.sentence("Changes nothing; in particular no fault status, detectedBy or test changes.");
+        for (States.State state : States.all()) {
+            Unchanged.by("simulate " + state.name(), state.made(), SimulateTest::askAll);
+        }
+    }
+
+    private static void askAll(PodemTestGen x) {
+        for (int v = 0; v < Nets.vectors(x); v++) {
+            x.simulate(v);
+        }
+        for (int v : Edges.outside(Nets.vectors(x))) {
+            x.simulate(v);
         }
     }
 }

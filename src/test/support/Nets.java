@@ -1,7 +1,5 @@
 /** Netlists that several tests use. */
 final class Nets {
-    static final int[] WRONG = {-1, -2, Integer.MIN_VALUE, Integer.MAX_VALUE, 1 << 30, 64, 1024};
-
     private Nets() {
     }
 
@@ -33,15 +31,64 @@ final class Nets {
 
     /** As many inputs as told, an XOR chain over them, its end the output; not sealed. */
     static PodemTestGen parity(int inputs) {
-        PodemTestGen x = new PodemTestGen(32, 10);
-        for (int k = 0; k < inputs; k++) {
-            x.addInput();
-        }
+        return chain(PodemTestGen.KIND_XOR, inputs);
+    }
+
+    /** As many inputs as told, a chain of gates of the kind over them, its end the output; not sealed. */
+    static PodemTestGen chain(int kind, int inputs) {
+        PodemTestGen x = inputs(32, 10, inputs);
         int last = 0;
         for (int k = 1; k < inputs; k++) {
-            last = x.addGate(PodemTestGen.KIND_XOR, last, k);
+            last = x.addGate(kind, last, k);
         }
         x.markOutput(last);
         return x;
+    }
+
+    /** An object of these limits with so many inputs, and nothing else. */
+    static PodemTestGen inputs(int nodeLimit, int inputLimit, int inputs) {
+        PodemTestGen x = new PodemTestGen(nodeLimit, inputLimit);
+        for (int k = 0; k < inputs; k++) {
+            x.addInput();
+        }
+        return x;
+    }
+
+    /** An object of these limits with one input, and as many inverters of it as make up so many nodes. */
+    static PodemTestGen inverters(int nodeLimit, int inputLimit, int nodes) {
+        PodemTestGen x = inputs(nodeLimit, inputLimit, 1);
+        for (int n = 1; n < nodes; n++) {
+            x.addGate(PodemTestGen.KIND_NOT, 0, 0);
+        }
+        return x;
+    }
+
+    /** The same object, with this node marked as output and sealed. */
+    static PodemTestGen sealedAt(PodemTestGen x, int output) {
+        x.markOutput(output);
+        x.seal();
+        return x;
+    }
+
+    /** The same object after so many calls of nextTest(). */
+    static PodemTestGen after(PodemTestGen x, int calls) {
+        for (int i = 0; i < calls; i++) {
+            x.nextTest();
+        }
+        return x;
+    }
+
+    /** How many vectors are in range: one without inputs, and twice as many with each. */
+    static int vectors(PodemTestGen x) {
+        int vectors = 1;
+        for (int n = 0; n < x.nodeCount(); n++) {
+            vectors *= x.nodeKind(n) == PodemTestGen.KIND_INPUT ? 2 : 1;
+        }
+        return vectors;
+    }
+
+    /** Sealed, though both limits leave room, and with a node that is not marked. */
+    static PodemTestGen sealedWithRoom() {
+        return sealedAt(inverters(32, 10, 2), 1);
     }
 }

@@ -16,11 +16,19 @@ final class Picture {
             s.append(" t").append(t).append(':').append(x.testVector(t)).append('/').append(x.testTarget(t));
         }
         for (int v = -1; v <= 16; v++) {
-            s.append(" v").append(v).append(':').append(x.simulate(v)).append('/');
-            for (int n = 0; n < x.nodeCount(); n++) {
-                s.append(x.evaluate(v, n)).append(x.detects(v, 2 * n) ? 'y' : 'n').append(x.detects(v, 2 * n + 1) ? 'y' : 'n');
-            }
+            vector(s, x, v);
+        }
+        // Where the vectors end is how many inputs there are.
+        for (int k = 5; k <= PodemTestGen.MAX_INPUTS + 1; k++) {
+            vector(s, x, (1 << k) - 1);
         }
         return s.toString();
+    }
+
+    private static void vector(StringBuilder s, PodemTestGen x, int v) {
+        s.append(" v").append(v).append(':').append(x.simulate(v)).append('/');
+        for (int n = 0; n < x.nodeCount(); n++) {
+            s.append(x.evaluate(v, n)).append(x.detects(v, 2 * n) ? 'y' : 'n').append(x.detects(v, 2 * n + 1) ? 'y' : 'n');
+        }
     }
 }

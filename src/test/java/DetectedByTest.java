@@ -1,0 +1,85 @@
+/** Promise 11: detectedBy. */
+public final class DetectedByTest {
+    public static void main(String[] args) {
+        detected();
+        staysInItsRange();
+        notDetected();
+        notSealed();
+        outOfRange();
+        changesNothing();
+        Check.end();
+    }
+
+    private static void detected() {
+        Check.sentence("`detectedBy(f)` answers the index of the test that set fault f to STATUS_DETECTED");
+        PodemTestGen x = Nets.sealedAt(Nets.redundant(), 5);
+        String[] after = {"------------", "0-0-0-----0-", "010-01---101", "010201-2-101", "010201-2-101", "010201-2-101"};
+        for (String row : after) {
+            for (int f = 0; f < 12; f++) {
+                int due = row.charAt(f) == '-' ? -1 : row.charAt(f) - '0';
+                Check.due("detectedBy(" + f + ") of " + row, x.detectedBy(f), due);
+            }
+            x.nextTest();
+        }
+    }
+
+    private static void staysInItsRange() {
+        Check.sentence("that index is in [0, testCount).");
+        PodemTestGen x = Nets.sealedAt(Nets.chain(PodemTestGen.KIND_NAND, 10), 18);
+        for (int i = 0; i < 40; i++) {
+            for (int f = 0; f < 38; f++) {
+                boolean detected = x.faultStatus(f) == PodemTestGen.STATUS_DETECTED;
+                boolean inside = x.detectedBy(f) >= 0 && x.detectedBy(f) < x.testCount();
+                Check.due("detectedBy(" + f + ") is a test's index", inside, detected);
+            }
+            x.nextTest();
+        }
+    }
+
+    private static void notDetected() {
+        Check.sentence("Answers -1 if f is not detected (STATUS_UNTRIED or STATUS_UNTESTABLE)");
+        for (States.State state : States.sealed()) {
+            PodemTestGen x = state.made().get();
+            for (int f = 0; f < 2 * x.nodeCount(); f++) {
+                boolean detected = x.faultStatus(f) == PodemTestGen.STATUS_DETECTED;
+                Check.due("detectedBy(" + f + ") is -1, " + state.name(), x.detectedBy(f) == -1, !detected);
+            }
+        }
+    }
+
+    private static void notSealed() {
+        Check.sentence("if not sealed");
+        for (States.State state : States.open()) {
+            PodemTestGen x = state.made().get();
+            for (int f = 0; f < 64; f++) {
+                Check.due("detectedBy(" + f + ") " + state.name(), x.detectedBy(f), -1);
+            }
+        }
+    }
+
+    private static void outOfRange() {
+        Check.sentence("or if f is out of range (f < 0 or f >= 2*nodeCount).");
+        for (States.State state : States.all()) {
+            PodemTestGen x = state.made().get();
+            for (int f : Edges.outside(2 * x.nodeCount())) {
+                Check.due("detectedBy(" + f + ") " + state.name(), x.detectedBy(f), -1);
+            }
+        }
+    }
+
+    private static void changesNothing() {
+        Check.sentence("Changes nothing.");
+        for (States.State state : States.all()) {
+            Unchanged.by("detectedBy " + state.name(), state.made(), DetectedByTest::askAll);
+        }
+    }
+
+    private static void askAll(PodemTestGen x) {
+        for (int f = 0; f < 2 * x.nodeCount(); f++) {
+            x.detectedBy(f);
+        }
+        for (int f : Edges.outside(2 * x.nodeCount())) {
+            x.detectedBy(f);
+        }
+    }
+}
