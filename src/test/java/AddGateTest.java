@@ -10,23 +10,30 @@ public final class AddGateTest {
     private static final List<Refusal> REFUSALS = new ArrayList<>();
 
     public static void main(String[] args) {
-        oneOperandGatesIgnoreTheSecond();
-        refusedWhenSealed();
-        refusedAtTheNodeLimit();
-        refusedForItsKind();
-        refusedForItsFirstOperand();
-        refusedForItsSecondOperand();
-        refusedForSeveralReasons();
-        refusedChangesNothing();
-        appends();
-        equalOperands();
-        operandsKeepTheirPlaces();
-        keepsWhatStands();
+        Check.sentence("For BUF and NOT only a is used, and b is ignored (any int).",
+            AddGateTest::oneOperandGatesIgnoreTheSecond);
+        Check.sentence("1. sealed: answers -1;", AddGateTest::refusedWhenSealed);
+        Check.sentence("2. nodeCount == nodeLimit: answers -1;", AddGateTest::refusedAtTheNodeLimit);
+        Check.sentence("3. kind < 0 or kind > 7: answers -1 (so KIND_INPUT is refused);",
+            AddGateTest::refusedForItsKind);
+        Check.sentence("4. a < 0 or a >= nodeCount: answers -1;", AddGateTest::refusedForItsFirstOperand);
+        Check.sentence("5. kind >= 2 and (b < 0 or b >= nodeCount): answers -1.",
+            AddGateTest::refusedForItsSecondOperand);
+        Check.sentence("Tests, in order:", AddGateTest::refusedForSeveralReasons);
+        Check.sentence("A refused call changes nothing.", AddGateTest::refusedChangesNothing);
+        Check.sentence("Otherwise it appends the gate, increments nodeCount, and answers the new node's index (the old "
+                + "nodeCount).",
+            AddGateTest::appends);
+        Check.sentence("a and b may be equal.", AddGateTest::equalOperands);
+        Check.sentence("adds a gate of the given kind (KIND_BUF..KIND_XNOR) with operands a and b.",
+            AddGateTest::operandsKeepTheirPlaces);
+        Check.sentence("inputCount does not change, the new node is not marked as output, and existing nodes, outputs "
+                + "and tests do not change.",
+            AddGateTest::keepsWhatStands);
         Check.end();
     }
 
     private static void oneOperandGatesIgnoreTheSecond() {
-        Check.sentence("For BUF and NOT only a is used, and b is ignored (any int).");
         List<Integer> any = new ArrayList<>(Edges.outside(2));
         any.add(0);
         any.add(1);
@@ -46,7 +53,6 @@ public final class AddGateTest {
     }
 
     private static void refusedWhenSealed() {
-        Check.sentence("1. sealed: answers -1;");
         for (int kind = 0; kind <= 7; kind++) {
             refused("sealed, with room", Nets::sealedWithRoom, kind, 0, 1);
         }
@@ -57,7 +63,6 @@ public final class AddGateTest {
     }
 
     private static void refusedAtTheNodeLimit() {
-        Check.sentence("2. nodeCount == nodeLimit: answers -1;");
         for (int limit = 8; limit <= 32; limit++) {
             int nodes = limit;
             for (int kind = 0; kind <= 7; kind++) {
@@ -70,7 +75,6 @@ public final class AddGateTest {
     }
 
     private static void refusedForItsKind() {
-        Check.sentence("3. kind < 0 or kind > 7: answers -1 (so KIND_INPUT is refused);");
         for (int kind : Edges.outside(8)) {
             refused("with a wrong kind", Nets::redundant, kind, 0, 1);
         }
@@ -79,7 +83,6 @@ public final class AddGateTest {
     }
 
     private static void refusedForItsFirstOperand() {
-        Check.sentence("4. a < 0 or a >= nodeCount: answers -1;");
         for (int kind = 0; kind <= 7; kind++) {
             refused("on an empty netlist", () -> new PodemTestGen(8, 2), kind, 0, 0);
             refused("of itself", () -> Nets.inputs(8, 2, 1), kind, 1, 0);
@@ -92,7 +95,6 @@ public final class AddGateTest {
     }
 
     private static void refusedForItsSecondOperand() {
-        Check.sentence("5. kind >= 2 and (b < 0 or b >= nodeCount): answers -1.");
         for (int kind = 2; kind <= 7; kind++) {
             refused("of itself", () -> Nets.inputs(8, 2, 1), kind, 0, 1);
             for (int b : Edges.outside(6)) {
@@ -108,7 +110,6 @@ public final class AddGateTest {
     }
 
     private static void refusedForSeveralReasons() {
-        Check.sentence("Tests, in order:");
         refused("sealed, at the limit", () -> Nets.sealedAt(Nets.inverters(8, 1, 8), 7), PodemTestGen.KIND_AND, 0, 1);
         refused("sealed, all wrong", Nets::sealedWithRoom, -1, -1, -1);
         refused("at the limit, all wrong", () -> Nets.inverters(8, 1, 8), 8, 8, 8);
@@ -122,7 +123,6 @@ public final class AddGateTest {
     }
 
     private static void refusedChangesNothing() {
-        Check.sentence("A refused call changes nothing.");
         for (Refusal r : REFUSALS) {
             Unchanged.by(r.call(), r.made(), x -> x.addGate(r.kind(), r.a(), r.b()));
         }
@@ -135,7 +135,6 @@ public final class AddGateTest {
     }
 
     private static void appends() {
-        Check.sentence("Otherwise it appends the gate, increments nodeCount, and answers the new node's index (the old nodeCount).");
         PodemTestGen x = Nets.inputs(32, 2, 2);
         for (int n = 2; n < 32; n++) {
             int kind = n % 8;
@@ -146,7 +145,6 @@ public final class AddGateTest {
     }
 
     private static void equalOperands() {
-        Check.sentence("a and b may be equal.");
         int[][] values = {{0, 1}, {1, 0}, {0, 1}, {1, 0}, {0, 1}, {1, 0}, {0, 0}, {1, 1}};
         for (int kind = 0; kind <= 7; kind++) {
             PodemTestGen x = Nets.inputs(8, 1, 1);
@@ -157,7 +155,6 @@ public final class AddGateTest {
     }
 
     private static void operandsKeepTheirPlaces() {
-        Check.sentence("adds a gate of the given kind (KIND_BUF..KIND_XNOR) with operands a and b.");
         PodemTestGen x = Nets.inputs(8, 3, 3);
         x.addGate(PodemTestGen.KIND_AND, 2, 0);
         x.addGate(PodemTestGen.KIND_OR, 3, 1);
@@ -169,7 +166,6 @@ public final class AddGateTest {
     }
 
     private static void keepsWhatStands() {
-        Check.sentence("inputCount does not change, the new node is not marked as output, and existing nodes, outputs and tests do not change.");
         for (int kind = 0; kind <= 7; kind++) {
             PodemTestGen x = Nets.oneGate(PodemTestGen.KIND_NAND);
             x.markOutput(3);

@@ -7,19 +7,20 @@ public final class AddInputTest {
     private static final List<States.State> REFUSING = new ArrayList<>();
 
     public static void main(String[] args) {
-        refusedWhenSealed();
-        refusedAtTheNodeLimit();
-        refusedAtTheInputLimit();
-        refusedForSeveralReasons();
-        refusedChangesNothing();
-        appends();
-        newNodeIsNoOutput();
-        keepsWhatStands();
+        Check.sentence("1. sealed: answers -1;", AddInputTest::refusedWhenSealed);
+        Check.sentence("2. nodeCount == nodeLimit: answers -1;", AddInputTest::refusedAtTheNodeLimit);
+        Check.sentence("3. inputCount == inputLimit: answers -1.", AddInputTest::refusedAtTheInputLimit);
+        Check.sentence("Tests, in order:", AddInputTest::refusedForSeveralReasons);
+        Check.sentence("A refused call changes nothing.", AddInputTest::refusedChangesNothing);
+        Check.sentence("Otherwise it appends an input node with ordinal inputCount, increments nodeCount and "
+                + "inputCount, and answers the new node's index (the old nodeCount).",
+            AddInputTest::appends);
+        Check.sentence("The new node is not marked as output.", AddInputTest::newNodeIsNoOutput);
+        Check.sentence("Existing nodes, outputs and tests do not change.", AddInputTest::keepsWhatStands);
         Check.end();
     }
 
     private static void refusedWhenSealed() {
-        Check.sentence("1. sealed: answers -1;");
         refused("sealed, with room for a node and an input", Nets::sealedWithRoom);
         for (States.State state : States.sealed()) {
             refused(state.name(), state.made());
@@ -27,7 +28,6 @@ public final class AddInputTest {
     }
 
     private static void refusedAtTheNodeLimit() {
-        Check.sentence("2. nodeCount == nodeLimit: answers -1;");
         for (int limit = 8; limit <= 32; limit++) {
             int nodes = limit;
             Check.due("addInput() one below node limit " + limit, Nets.inverters(limit, 10, limit - 1).addInput(), limit - 1);
@@ -37,7 +37,6 @@ public final class AddInputTest {
     }
 
     private static void refusedAtTheInputLimit() {
-        Check.sentence("3. inputCount == inputLimit: answers -1.");
         for (int limit = 1; limit <= 10; limit++) {
             int inputs = limit;
             Check.due("addInput() one below input limit " + limit, Nets.inputs(32, limit, limit - 1).addInput(), limit - 1);
@@ -47,7 +46,6 @@ public final class AddInputTest {
     }
 
     private static void refusedForSeveralReasons() {
-        Check.sentence("Tests, in order:");
         refused("at both limits", () -> Nets.inputs(8, 8, 8));
         refused("sealed, at the node limit", () -> Nets.sealedAt(Nets.inverters(8, 10, 8), 0));
         refused("sealed, at the input limit", () -> Nets.sealedAt(Nets.inputs(8, 2, 2), 0));
@@ -55,7 +53,6 @@ public final class AddInputTest {
     }
 
     private static void refusedChangesNothing() {
-        Check.sentence("A refused call changes nothing.");
         for (States.State state : REFUSING) {
             Unchanged.by("addInput() " + state.name(), state.made(), PodemTestGen::addInput);
         }
@@ -69,8 +66,6 @@ public final class AddInputTest {
     }
 
     private static void appends() {
-        Check.sentence("Otherwise it appends an input node with ordinal inputCount, increments nodeCount and inputCount,"
-            + " and answers the new node's index (the old nodeCount).");
         PodemTestGen x = new PodemTestGen(32, 10);
         for (int k = 0; k < 10; k++) {
             Check.due("addInput() number " + k, x.addInput(), 2 * k);
@@ -89,7 +84,6 @@ public final class AddInputTest {
     }
 
     private static void newNodeIsNoOutput() {
-        Check.sentence("The new node is not marked as output.");
         PodemTestGen x = new PodemTestGen(8, 8);
         for (int n = 0; n < 8; n++) {
             x.markOutput(n);
@@ -100,7 +94,6 @@ public final class AddInputTest {
     }
 
     private static void keepsWhatStands() {
-        Check.sentence("Existing nodes, outputs and tests do not change.");
         PodemTestGen x = Nets.inputs(8, 3, 1);
         x.addGate(PodemTestGen.KIND_NOT, 0, 0);
         x.markOutput(1);

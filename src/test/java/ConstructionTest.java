@@ -9,21 +9,23 @@ public final class ConstructionTest {
         Integer.MIN_VALUE, -1, 0, 1, 2, 7, 8, 9, 10, 11, 31, 32, 33, Integer.MAX_VALUE};
 
     public static void main(String[] args) {
-        emptyAtFirst();
-        countsAtFirst();
-        nodeLimitBelow();
-        nodeLimitAbove();
-        nodeLimitKept();
-        inputLimitBelow();
-        inputLimitAbove();
-        inputLimitKept();
-        everyInt();
-        limitsStay();
+        Check.sentence("creates an empty, unsealed netlist: no nodes, no outputs, no tests.",
+            ConstructionTest::emptyAtFirst);
+        Check.sentence("nodeCount and inputCount are 0, and testCount() answers 0.", ConstructionTest::countsAtFirst);
+        Check.sentence("nodeLimit is clamped into [8, 32]: a value below 8 becomes 8",
+            ConstructionTest::nodeLimitBelow);
+        Check.sentence("a value above 32 becomes 32", ConstructionTest::nodeLimitAbove);
+        Check.sentence("a value above 32 becomes 32, any value in between is kept", ConstructionTest::nodeLimitKept);
+        Check.sentence("inputLimit is clamped into [1, 10]: below 1 becomes 1", ConstructionTest::inputLimitBelow);
+        Check.sentence("above 10 becomes 10", ConstructionTest::inputLimitAbove);
+        Check.sentence("above 10 becomes 10, any value in between is kept", ConstructionTest::inputLimitKept);
+        Check.sentence("This holds for every int, including Integer.MIN_VALUE and Integer.MAX_VALUE.",
+            ConstructionTest::everyInt);
+        Check.sentence("The clamped limits never change afterwards.", ConstructionTest::limitsStay);
         Check.end();
     }
 
     private static void emptyAtFirst() {
-        Check.sentence("creates an empty, unsealed netlist: no nodes, no outputs, no tests.");
         for (int nodeLimit : ANY) {
             for (int inputLimit : ANY) {
                 PodemTestGen x = new PodemTestGen(nodeLimit, inputLimit);
@@ -43,7 +45,6 @@ public final class ConstructionTest {
     }
 
     private static void countsAtFirst() {
-        Check.sentence("nodeCount and inputCount are 0, and testCount() answers 0.");
         Nets.after(Nets.sealedAt(Nets.redundant(), 5), 6);
         for (int nodeLimit : ANY) {
             for (int inputLimit : ANY) {
@@ -57,7 +58,6 @@ public final class ConstructionTest {
     }
 
     private static void nodeLimitBelow() {
-        Check.sentence("nodeLimit is clamped into [8, 32]: a value below 8 becomes 8");
         for (int given = 1; given < 8; given++) {
             nodeLimit(given, 8);
         }
@@ -67,7 +67,6 @@ public final class ConstructionTest {
     }
 
     private static void nodeLimitAbove() {
-        Check.sentence("a value above 32 becomes 32");
         for (int given = 33; given < 40; given++) {
             nodeLimit(given, 32);
         }
@@ -77,21 +76,18 @@ public final class ConstructionTest {
     }
 
     private static void nodeLimitKept() {
-        Check.sentence("a value above 32 becomes 32, any value in between is kept");
         for (int given = 8; given <= 32; given++) {
             nodeLimit(given, given);
         }
     }
 
     private static void inputLimitBelow() {
-        Check.sentence("inputLimit is clamped into [1, 10]: below 1 becomes 1");
         for (int given : FAR_BELOW) {
             inputLimit(given, 1);
         }
     }
 
     private static void inputLimitAbove() {
-        Check.sentence("above 10 becomes 10");
         for (int given = 11; given < 40; given++) {
             inputLimit(given, 10);
         }
@@ -101,14 +97,12 @@ public final class ConstructionTest {
     }
 
     private static void inputLimitKept() {
-        Check.sentence("above 10 becomes 10, any value in between is kept");
         for (int given = 1; given <= 10; given++) {
             inputLimit(given, given);
         }
     }
 
     private static void everyInt() {
-        Check.sentence("This holds for every int, including Integer.MIN_VALUE and Integer.MAX_VALUE.");
         for (int nodeLimit : ANY) {
             for (int inputLimit : ANY) {
                 String made = "new PodemTestGen(" + nodeLimit + ", " + inputLimit + "): ";
@@ -122,7 +116,6 @@ public final class ConstructionTest {
     }
 
     private static void limitsStay() {
-        Check.sentence("The clamped limits never change afterwards.");
         PodemTestGen x = new PodemTestGen(12, 3);
         PodemTestGen greater = new PodemTestGen(32, 10);
         PodemTestGen less = new PodemTestGen(8, 1);
@@ -148,7 +141,7 @@ public final class ConstructionTest {
         x.markOutput(99);
         x.seal();
         x.nextTest();
-        Picture.of(x);
+        Views.told().forEach(view -> view.of().apply(x));
     }
 
     private static void nodeLimit(int given, int kept) {

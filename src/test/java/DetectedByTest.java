@@ -1,17 +1,18 @@
 /** Promise 11: detectedBy. */
 public final class DetectedByTest {
     public static void main(String[] args) {
-        detected();
-        staysInItsRange();
-        notDetected();
-        notSealed();
-        outOfRange();
-        changesNothing();
+        Check.sentence("`detectedBy(f)` answers the index of the test that set fault f to STATUS_DETECTED",
+            DetectedByTest::detected);
+        Check.sentence("that index is in [0, testCount).", DetectedByTest::staysInItsRange);
+        Check.sentence("Answers -1 if f is not detected (STATUS_UNTRIED or STATUS_UNTESTABLE)",
+            DetectedByTest::notDetected);
+        Check.sentence("if not sealed", DetectedByTest::notSealed);
+        Check.sentence("or if f is out of range (f < 0 or f >= 2*nodeCount).", DetectedByTest::outOfRange);
+        Check.sentence("Changes nothing.", DetectedByTest::changesNothing);
         Check.end();
     }
 
     private static void detected() {
-        Check.sentence("`detectedBy(f)` answers the index of the test that set fault f to STATUS_DETECTED");
         PodemTestGen x = Nets.sealedAt(Nets.redundant(), 5);
         String[] after = {"------------", "0-0-0-----0-", "010-01---101", "010201-2-101", "010201-2-101", "010201-2-101"};
         for (String row : after) {
@@ -24,7 +25,6 @@ public final class DetectedByTest {
     }
 
     private static void staysInItsRange() {
-        Check.sentence("that index is in [0, testCount).");
         PodemTestGen x = Nets.sealedAt(Nets.chain(PodemTestGen.KIND_NAND, 10), 18);
         for (int i = 0; i < 40; i++) {
             for (int f = 0; f < 38; f++) {
@@ -37,7 +37,6 @@ public final class DetectedByTest {
     }
 
     private static void notDetected() {
-        Check.sentence("Answers -1 if f is not detected (STATUS_UNTRIED or STATUS_UNTESTABLE)");
         for (States.State state : States.sealed()) {
             PodemTestGen x = state.made().get();
             for (int f = 0; f < 2 * x.nodeCount(); f++) {
@@ -48,7 +47,6 @@ public final class DetectedByTest {
     }
 
     private static void notSealed() {
-        Check.sentence("if not sealed");
         for (States.State state : States.open()) {
             PodemTestGen x = state.made().get();
             for (int f = 0; f < 64; f++) {
@@ -58,7 +56,6 @@ public final class DetectedByTest {
     }
 
     private static void outOfRange() {
-        Check.sentence("or if f is out of range (f < 0 or f >= 2*nodeCount).");
         for (States.State state : States.all()) {
             PodemTestGen x = state.made().get();
             for (int f : Edges.outside(2 * x.nodeCount())) {
@@ -68,7 +65,6 @@ public final class DetectedByTest {
     }
 
     private static void changesNothing() {
-        Check.sentence("Changes nothing.");
         for (States.State state : States.all()) {
             Unchanged.by("detectedBy " + state.name(), state.made(), DetectedByTest::askAll);
         }

@@ -4,20 +4,21 @@ public final class DetectsTest {
     private static final String[] REDUNDANT = {"nnnnnynnnyny", "nnnynynynyny", "nynnnynnnyny", "ynynynnnnnyn"};
 
     public static void main(String[] args) {
-        currentNetlistAndOutputs();
-        faultOfAnInputThatIsAnOutput();
-        sealedOrNot();
-        whateverTheStatus();
-        vectorOutOfRange();
-        faultOutOfRange();
-        bothOutOfRange();
-        withoutOutputs();
-        changesNothing();
+        Check.sentence("`detects(v, f)` answers whether vector v detects fault f, for the current netlist and outputs.",
+            DetectsTest::currentNetlistAndOutputs);
+        Check.sentence("This holds for an input node too.", DetectsTest::faultOfAnInputThatIsAnOutput);
+        Check.sentence("Works whether or not the netlist is sealed", DetectsTest::sealedOrNot);
+        Check.sentence("does not depend on fault status.", DetectsTest::whateverTheStatus);
+        Check.sentence("Answers false if v is out of range", DetectsTest::vectorOutOfRange);
+        Check.sentence("or if f < 0 or f >= 2*nodeCount.", DetectsTest::faultOutOfRange);
+        Check.sentence("Answers false if v is out of range, or if f < 0 or f >= 2*nodeCount.",
+            DetectsTest::bothOutOfRange);
+        Check.sentence("With no output marked it answers false.", DetectsTest::withoutOutputs);
+        Check.sentence("Changes nothing.", DetectsTest::changesNothing);
         Check.end();
     }
 
     private static void currentNetlistAndOutputs() {
-        Check.sentence("`detects(v, f)` answers whether vector v detects fault f, for the current netlist and outputs.");
         PodemTestGen x = Nets.inputs(8, 2, 1);
         x.addGate(PodemTestGen.KIND_NOT, 0, 0);
         x.addGate(PodemTestGen.KIND_NOT, 0, 0);
@@ -37,7 +38,6 @@ public final class DetectsTest {
     }
 
     private static void faultOfAnInputThatIsAnOutput() {
-        Check.sentence("This holds for an input node too.");
         PodemTestGen x = Nets.inputs(8, 1, 1);
         x.markOutput(0);
         Check.due("detects(0, 0)", x.detects(0, 0), false);
@@ -47,7 +47,6 @@ public final class DetectsTest {
     }
 
     private static void sealedOrNot() {
-        Check.sentence("Works whether or not the netlist is sealed");
         PodemTestGen x = Nets.redundant();
         rows(x, "before seal()");
         x.seal();
@@ -55,7 +54,6 @@ public final class DetectsTest {
     }
 
     private static void whateverTheStatus() {
-        Check.sentence("does not depend on fault status.");
         PodemTestGen x = Nets.sealedAt(Nets.redundant(), 5);
         for (int i = 0; i <= 6; i++) {
             rows(x, "after " + i + " nextTest()");
@@ -72,7 +70,6 @@ public final class DetectsTest {
     }
 
     private static void vectorOutOfRange() {
-        Check.sentence("Answers false if v is out of range");
         for (States.State state : States.all()) {
             PodemTestGen x = state.made().get();
             for (int v : Edges.outside(Nets.vectors(x))) {
@@ -94,7 +91,6 @@ public final class DetectsTest {
     }
 
     private static void faultOutOfRange() {
-        Check.sentence("or if f < 0 or f >= 2*nodeCount.");
         for (States.State state : States.all()) {
             PodemTestGen x = state.made().get();
             int last = Nets.vectors(x) - 1;
@@ -112,7 +108,6 @@ public final class DetectsTest {
     }
 
     private static void bothOutOfRange() {
-        Check.sentence("Answers false if v is out of range, or if f < 0 or f >= 2*nodeCount.");
         for (States.State state : States.all()) {
             PodemTestGen x = state.made().get();
             for (int v : Edges.outside(Nets.vectors(x))) {
@@ -124,7 +119,6 @@ public final class DetectsTest {
     }
 
     private static void withoutOutputs() {
-        Check.sentence("With no output marked it answers false.");
         for (int inputs = 0; inputs <= 10; inputs++) {
             PodemTestGen x = Nets.inputs(32, 10, inputs);
             for (int n = inputs; inputs > 0 && n < 32; n++) {
@@ -139,7 +133,6 @@ public final class DetectsTest {
     }
 
     private static void changesNothing() {
-        Check.sentence("Changes nothing.");
         for (States.State state : States.all()) {
             Unchanged.by("detects " + state.name(), state.made(), DetectsTest::askAll);
         }

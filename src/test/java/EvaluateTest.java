@@ -1,19 +1,22 @@
 /** Promise 14: evaluate. */
 public final class EvaluateTest {
     public static void main(String[] args) {
-        truthTables();
-        parities();
-        currentNetlist();
-        sealedOrNot();
-        vectorOutOfRange();
-        nodeOutOfRange();
-        bothOutOfRange();
-        changesNothing();
+        Check.sentence("BUF a; NOT 1-a; AND a&b; NAND 1-(a&b); OR a|b; NOR 1-(a|b); XOR a^b; XNOR 1-(a^b).",
+            EvaluateTest::truthTables);
+        Check.sentence("`evaluate(v, node)` answers the good-evaluation value (0 or 1) of node under vector v",
+            EvaluateTest::parities);
+        Check.sentence("for the current netlist.", EvaluateTest::currentNetlist);
+        Check.sentence("Works whether or not the netlist is sealed.", EvaluateTest::sealedOrNot);
+        Check.sentence("Answers -1 if v is out of range (v < 0 or v >= (1 << inputCount))",
+            EvaluateTest::vectorOutOfRange);
+        Check.sentence("or if node < 0 or node >= nodeCount.", EvaluateTest::nodeOutOfRange);
+        Check.sentence("out of range (v < 0 or v >= (1 << inputCount)), or if node < 0 or node >= nodeCount.",
+            EvaluateTest::bothOutOfRange);
+        Check.sentence("Changes nothing.", EvaluateTest::changesNothing);
         Check.end();
     }
 
     private static void truthTables() {
-        Check.sentence("BUF a; NOT 1-a; AND a&b; NAND 1-(a&b); OR a|b; NOR 1-(a|b); XOR a^b; XNOR 1-(a^b).");
         int[][] tables = {
             {0, 1, 0, 1}, {1, 0, 1, 0}, {0, 0, 0, 1}, {1, 1, 1, 0},
             {0, 1, 1, 1}, {1, 0, 0, 0}, {0, 1, 1, 0}, {1, 0, 0, 1}};
@@ -28,7 +31,6 @@ public final class EvaluateTest {
     }
 
     private static void parities() {
-        Check.sentence("`evaluate(v, node)` answers the good-evaluation value (0 or 1) of node under vector v");
         PodemTestGen x = Nets.parity(10);
         for (int v = 0; v < 1024; v++) {
             Check.due("parity of " + v, x.evaluate(v, 18), Integer.bitCount(v) % 2);
@@ -38,7 +40,6 @@ public final class EvaluateTest {
     }
 
     private static void currentNetlist() {
-        Check.sentence("for the current netlist.");
         PodemTestGen x = new PodemTestGen(32, 10);
         Check.due("evaluate(0, 0) without nodes", x.evaluate(0, 0), -1);
         for (int inputs = 1; inputs <= 10; inputs++) {
@@ -55,7 +56,6 @@ public final class EvaluateTest {
     }
 
     private static void sealedOrNot() {
-        Check.sentence("Works whether or not the netlist is sealed.");
         PodemTestGen x = Nets.redundant();
         for (int round = 0; round < 8; round++) {
             for (int v = 0; v < 4; v++) {
@@ -71,7 +71,6 @@ public final class EvaluateTest {
     }
 
     private static void vectorOutOfRange() {
-        Check.sentence("Answers -1 if v is out of range (v < 0 or v >= (1 << inputCount))");
         for (States.State state : States.all()) {
             PodemTestGen x = state.made().get();
             for (int v : Edges.outside(Nets.vectors(x))) {
@@ -91,7 +90,6 @@ public final class EvaluateTest {
     }
 
     private static void nodeOutOfRange() {
-        Check.sentence("or if node < 0 or node >= nodeCount.");
         for (States.State state : States.all()) {
             PodemTestGen x = state.made().get();
             int last = Nets.vectors(x) - 1;
@@ -106,7 +104,6 @@ public final class EvaluateTest {
     }
 
     private static void bothOutOfRange() {
-        Check.sentence("out of range (v < 0 or v >= (1 << inputCount)), or if node < 0 or node >= nodeCount.");
         for (States.State state : States.all()) {
             PodemTestGen x = state.made().get();
             for (int v : Edges.outside(Nets.vectors(x))) {
@@ -118,7 +115,6 @@ public final class EvaluateTest {
     }
 
     private static void changesNothing() {
-        Check.sentence("Changes nothing.");
         for (States.State state : States.all()) {
             Unchanged.by("evaluate " + state.name(), state.made(), EvaluateTest::askAll);
         }

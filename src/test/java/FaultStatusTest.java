@@ -1,15 +1,15 @@
 /** Promise 10: faultStatus. */
 public final class FaultStatusTest {
     public static void main(String[] args) {
-        statuses();
-        notSealed();
-        outOfRange();
-        changesNothing();
+        Check.sentence("answers the status of fault f: STATUS_UNTRIED, STATUS_DETECTED or STATUS_UNTESTABLE.",
+            FaultStatusTest::statuses);
+        Check.sentence("Answers -1 if not sealed", FaultStatusTest::notSealed);
+        Check.sentence("or if f < 0 or f >= 2*nodeCount.", FaultStatusTest::outOfRange);
+        Check.sentence("Changes nothing.", FaultStatusTest::changesNothing);
         Check.end();
     }
 
     private static void statuses() {
-        Check.sentence("answers the status of fault f: STATUS_UNTRIED, STATUS_DETECTED or STATUS_UNTESTABLE.");
         PodemTestGen x = Nets.sealedAt(Nets.redundant(), 5);
         String[] after = {"000000000000", "101010000010", "111011000111", "111111010111", "111111210111", "111111212111"};
         for (String row : after) {
@@ -21,7 +21,6 @@ public final class FaultStatusTest {
     }
 
     private static void notSealed() {
-        Check.sentence("Answers -1 if not sealed");
         for (States.State state : States.open()) {
             PodemTestGen x = state.made().get();
             for (int f = 0; f < 64; f++) {
@@ -35,7 +34,6 @@ public final class FaultStatusTest {
     }
 
     private static void outOfRange() {
-        Check.sentence("or if f < 0 or f >= 2*nodeCount.");
         for (States.State state : States.all()) {
             PodemTestGen x = state.made().get();
             for (int f : Edges.outside(2 * x.nodeCount())) {
@@ -50,7 +48,6 @@ public final class FaultStatusTest {
     }
 
     private static void changesNothing() {
-        Check.sentence("Changes nothing.");
         for (States.State state : States.all()) {
             Unchanged.by("faultStatus " + state.name(), state.made(), FaultStatusTest::askAll);
         }

@@ -1,15 +1,14 @@
 /** Promise 9: isOutput. */
 public final class IsOutputTest {
     public static void main(String[] args) {
-        marked();
-        notMarked();
-        outOfRange();
-        changesNothing();
+        Check.sentence("`isOutput(node)` answers true if the node is marked as an output.", IsOutputTest::marked);
+        Check.sentence("Answers false if it is not marked", IsOutputTest::notMarked);
+        Check.sentence("or if node is out of range (node < 0 or node >= nodeCount).", IsOutputTest::outOfRange);
+        Check.sentence("Changes nothing.", IsOutputTest::changesNothing);
         Check.end();
     }
 
     private static void marked() {
-        Check.sentence("`isOutput(node)` answers true if the node is marked as an output.");
         PodemTestGen x = Nets.inverters(32, 10, 32);
         for (int n = 0; n < 32; n += 31) {
             x.markOutput(n);
@@ -24,7 +23,6 @@ public final class IsOutputTest {
     }
 
     private static void notMarked() {
-        Check.sentence("Answers false if it is not marked");
         PodemTestGen x = Nets.inverters(32, 10, 32);
         x.markOutput(16);
         for (int round = 0; round < 4; round++) {
@@ -38,7 +36,6 @@ public final class IsOutputTest {
     }
 
     private static void outOfRange() {
-        Check.sentence("or if node is out of range (node < 0 or node >= nodeCount).");
         for (States.State state : States.all()) {
             PodemTestGen x = state.made().get();
             for (int node : Edges.outside(x.nodeCount())) {
@@ -57,7 +54,6 @@ public final class IsOutputTest {
     }
 
     private static void changesNothing() {
-        Check.sentence("Changes nothing.");
         for (States.State state : States.all()) {
             Unchanged.by("isOutput " + state.name(), state.made(), IsOutputTest::askAll);
         }

@@ -10,18 +10,17 @@ public final class MarkOutputTest {
     private static final List<Refusal> REFUSALS = new ArrayList<>();
 
     public static void main(String[] args) {
-        refusedWhenSealed();
-        refusedOutOfRange();
-        refusedWhenMarked();
-        refusedForSeveralReasons();
-        refusedChangesNothing();
-        marks();
-        marksOneNodeAlone();
+        Check.sentence("1. sealed: answers false;", MarkOutputTest::refusedWhenSealed);
+        Check.sentence("2. node < 0 or node >= nodeCount: answers false;", MarkOutputTest::refusedOutOfRange);
+        Check.sentence("3. node is already marked: answers false.", MarkOutputTest::refusedWhenMarked);
+        Check.sentence("Tests, in order:", MarkOutputTest::refusedForSeveralReasons);
+        Check.sentence("A refused call changes nothing.", MarkOutputTest::refusedChangesNothing);
+        Check.sentence("Otherwise it marks the node and answers true.", MarkOutputTest::marks);
+        Check.sentence("No other node's marking changes, and no node is added.", MarkOutputTest::marksOneNodeAlone);
         Check.end();
     }
 
     private static void refusedWhenSealed() {
-        Check.sentence("1. sealed: answers false;");
         refused("sealed, not marked", Nets::sealedWithRoom, 0);
         for (States.State state : States.sealed()) {
             for (int node = 0; node < state.made().get().nodeCount(); node++) {
@@ -31,7 +30,6 @@ public final class MarkOutputTest {
     }
 
     private static void refusedOutOfRange() {
-        Check.sentence("2. node < 0 or node >= nodeCount: answers false;");
         for (States.State state : States.open()) {
             for (int node : Edges.outside(state.made().get().nodeCount())) {
                 refused(state.name(), state.made(), node);
@@ -40,7 +38,6 @@ public final class MarkOutputTest {
     }
 
     private static void refusedWhenMarked() {
-        Check.sentence("3. node is already marked: answers false.");
         refused("marked", Nets::redundant, 5);
         for (int node = 0; node < 32; node += 31) {
             refused("all marked", MarkOutputTest::allMarked, node);
@@ -54,7 +51,6 @@ public final class MarkOutputTest {
     }
 
     private static void refusedForSeveralReasons() {
-        Check.sentence("Tests, in order:");
         refused("sealed and marked", Nets::sealedWithRoom, 1);
         for (int node : Edges.outside(2)) {
             refused("sealed and out of range", Nets::sealedWithRoom, node);
@@ -62,7 +58,6 @@ public final class MarkOutputTest {
     }
 
     private static void refusedChangesNothing() {
-        Check.sentence("A refused call changes nothing.");
         for (Refusal r : REFUSALS) {
             Unchanged.by(r.call(), r.made(), x -> x.markOutput(r.node()));
         }
@@ -80,7 +75,6 @@ public final class MarkOutputTest {
     }
 
     private static void marks() {
-        Check.sentence("Otherwise it marks the node and answers true.");
         PodemTestGen x = Nets.inverters(32, 10, 32);
         for (int n = 31; n >= 0; n--) {
             Check.due("isOutput(" + n + ") at first", x.isOutput(n), false);
@@ -90,7 +84,6 @@ public final class MarkOutputTest {
     }
 
     private static void marksOneNodeAlone() {
-        Check.sentence("No other node's marking changes, and no node is added.");
         for (int node = 0; node < 5; node++) {
             PodemTestGen x = Nets.redundant();
             x.markOutput(node);

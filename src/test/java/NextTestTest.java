@@ -4,25 +4,35 @@ import java.util.List;
 /** Promise 6: nextTest. */
 public final class NextTestTest {
     public static void main(String[] args) {
-        refusedBeforeSeal();
-        refusedWithNoFaultLeft();
-        refusedChangesNothing();
-        stepByStep();
-        leastFault();
-        leastVector();
-        untestable();
-        untestableChangesOneFaultAlone();
-        recordsATest();
-        marksWhatTheVectorDetects();
-        keepsWhatIsDecided();
-        earlierTestsStay();
-        endsInTime();
-        whatIsRecordedIsTrue();
+        Check.sentence("1. not sealed: answers RESULT_NONE;", NextTestTest::refusedBeforeSeal);
+        Check.sentence("2. no fault has STATUS_UNTRIED: answers RESULT_NONE.", NextTestTest::refusedWithNoFaultLeft);
+        Check.sentence("A refused call changes nothing.", NextTestTest::refusedChangesNothing);
+        Check.sentence("`nextTest()` handles one fault.", NextTestTest::stepByStep);
+        Check.sentence("Otherwise let f be the least fault index with STATUS_UNTRIED", NextTestTest::leastFault);
+        Check.sentence("v the least vector (in [0, 1 << inputCount)) that detects f.", NextTestTest::leastVector);
+        Check.sentence("If there is no such v: f gets STATUS_UNTESTABLE, and the call answers RESULT_UNTESTABLE.",
+            NextTestTest::untestable);
+        Check.sentence("Its detectedBy stays -1. No test is recorded and no other fault changes.",
+            NextTestTest::untestableChangesOneFaultAlone);
+        Check.sentence("A test is appended at index t = testCount, with vector v and target f, and testCount is "
+                + "incremented.",
+            NextTestTest::recordsATest);
+        Check.sentence("Every fault g with STATUS_UNTRIED that v detects (f among them) gets STATUS_DETECTED and "
+                + "detectedBy t.",
+            NextTestTest::marksWhatTheVectorDetects);
+        Check.sentence("Faults that already have STATUS_DETECTED or STATUS_UNTESTABLE keep their status and detectedBy.",
+            NextTestTest::keepsWhatIsDecided);
+        Check.sentence("Earlier tests do not change.", NextTestTest::earlierTestsStay);
+        Check.sentence("A fault never returns to STATUS_UNTRIED, so after at most 2*nodeCount handling calls every "
+                + "further call answers RESULT_NONE.",
+            NextTestTest::endsInTime);
+        Check.sentence("every recorded test's vector detects its target, and every fault with STATUS_UNTESTABLE is "
+                + "detected by no vector in range.",
+            NextTestTest::whatIsRecordedIsTrue);
         Check.end();
     }
 
     private static void refusedBeforeSeal() {
-        Check.sentence("1. not sealed: answers RESULT_NONE;");
         for (States.State state : States.open()) {
             PodemTestGen x = state.made().get();
             for (int i = 0; i < 3; i++) {
@@ -32,7 +42,6 @@ public final class NextTestTest {
     }
 
     private static void refusedWithNoFaultLeft() {
-        Check.sentence("2. no fault has STATUS_UNTRIED: answers RESULT_NONE.");
         for (States.State state : done()) {
             PodemTestGen x = state.made().get();
             for (int f = 0; f < 2 * x.nodeCount(); f++) {
@@ -45,7 +54,6 @@ public final class NextTestTest {
     }
 
     private static void refusedChangesNothing() {
-        Check.sentence("A refused call changes nothing.");
         List<States.State> refusing = new ArrayList<>(States.open());
         refusing.addAll(done());
         for (States.State state : refusing) {
@@ -65,7 +73,6 @@ public final class NextTestTest {
 
     /** Worked out by hand: after each call the status and detecting test of every fault. */
     private static void stepByStep() {
-        Check.sentence("`nextTest()` handles one fault.");
         PodemTestGen x = Nets.redundant();
         x.seal();
         step(x, 3, "1 0 1 0 1 0 0 0 0 0 1 0", "0 - 0 - 0 - - - - - 0 -");
@@ -96,7 +103,6 @@ public final class NextTestTest {
     }
 
     private static void leastFault() {
-        Check.sentence("Otherwise let f be the least fault index with STATUS_UNTRIED");
         for (PodemTestGen x : sealedNets()) {
             for (int f = leastUntried(x); f >= 0; f = leastUntried(x)) {
                 int answer = x.nextTest();
@@ -113,7 +119,6 @@ public final class NextTestTest {
     }
 
     private static void leastVector() {
-        Check.sentence("v the least vector (in [0, 1 << inputCount)) that detects f.");
         for (PodemTestGen x : sealedNets()) {
             for (int i = 0; i < 64; i++) {
                 int f = leastUntried(x);
@@ -131,7 +136,6 @@ public final class NextTestTest {
     }
 
     private static void untestable() {
-        Check.sentence("If there is no such v: f gets STATUS_UNTESTABLE, and the call answers RESULT_UNTESTABLE.");
         PodemTestGen x = Nets.after(Nets.sealedAt(Nets.inverters(32, 1, 32), 0), 2);
         for (int f = 2; f < 64; f++) {
             Check.due("nextTest() for fault " + f, x.nextTest(), PodemTestGen.RESULT_UNTESTABLE);
@@ -145,7 +149,6 @@ public final class NextTestTest {
     }
 
     private static void untestableChangesOneFaultAlone() {
-        Check.sentence("Its detectedBy stays -1. No test is recorded and no other fault changes.");
         PodemTestGen x = Nets.after(Nets.sealedAt(Nets.inverters(32, 1, 32), 0), 2);
         for (int f = 2; f < 64; f++) {
             x.nextTest();
@@ -161,7 +164,6 @@ public final class NextTestTest {
     }
 
     private static void recordsATest() {
-        Check.sentence("A test is appended at index t = testCount, with vector v and target f, and testCount is incremented.");
         for (PodemTestGen x : sealedNets()) {
             for (int i = 0; i < 64; i++) {
                 int f = leastUntried(x);
@@ -175,7 +177,6 @@ public final class NextTestTest {
     }
 
     private static void marksWhatTheVectorDetects() {
-        Check.sentence("Every fault g with STATUS_UNTRIED that v detects (f among them) gets STATUS_DETECTED and detectedBy t.");
         for (PodemTestGen x : sealedNets()) {
             for (int i = 0; i < 64; i++) {
                 int t = x.testCount();
@@ -193,7 +194,6 @@ public final class NextTestTest {
     }
 
     private static void keepsWhatIsDecided() {
-        Check.sentence("Faults that already have STATUS_DETECTED or STATUS_UNTESTABLE keep their status and detectedBy.");
         for (PodemTestGen x : sealedNets()) {
             for (int i = 0; i < 66; i++) {
                 int[] statuses = statuses(x);
@@ -210,7 +210,6 @@ public final class NextTestTest {
     }
 
     private static void earlierTestsStay() {
-        Check.sentence("Earlier tests do not change.");
         for (PodemTestGen x : sealedNets()) {
             List<int[]> tests = new ArrayList<>();
             for (int i = 0; i < 66; i++) {
@@ -227,8 +226,6 @@ public final class NextTestTest {
     }
 
     private static void endsInTime() {
-        Check.sentence("A fault never returns to STATUS_UNTRIED,"
-            + " so after at most 2*nodeCount handling calls every further call answers RESULT_NONE.");
         for (int nodes = 1; nodes <= 32; nodes++) {
             PodemTestGen x = Nets.sealedAt(Nets.inverters(32, 1, nodes), 0);
             for (int i = 0; i < 2 * nodes; i++) {
@@ -256,7 +253,6 @@ public final class NextTestTest {
     }
 
     private static void whatIsRecordedIsTrue() {
-        Check.sentence("every recorded test's vector detects its target, and every fault with STATUS_UNTESTABLE is detected by no vector in range.");
         for (PodemTestGen x : sealedNets()) {
             Nets.after(x, 64);
             for (int t = 0; t < x.testCount(); t++) {

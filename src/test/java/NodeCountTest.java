@@ -1,14 +1,13 @@
 /** Promise 7: nodeCount. */
 public final class NodeCountTest {
     public static void main(String[] args) {
-        counts();
-        staysInItsRange();
-        changesNothing();
+        Check.sentence("`nodeCount()` answers the number of nodes", NodeCountTest::counts);
+        Check.sentence("in [0, nodeLimit].", NodeCountTest::staysInItsRange);
+        Check.sentence("Changes nothing.", NodeCountTest::changesNothing);
         Check.end();
     }
 
     private static void counts() {
-        Check.sentence("`nodeCount()` answers the number of nodes");
         PodemTestGen x = new PodemTestGen(10, 2);
         Check.due("nodeCount() at first", x.nodeCount(), 0);
         x.addInput();
@@ -34,7 +33,6 @@ public final class NodeCountTest {
     }
 
     private static void staysInItsRange() {
-        Check.sentence("in [0, nodeLimit].");
         for (int limit = 8; limit <= 32; limit++) {
             PodemTestGen x = new PodemTestGen(limit, 10);
             for (int n = 0; n < 40; n++) {
@@ -49,7 +47,6 @@ public final class NodeCountTest {
     }
 
     private static void changesNothing() {
-        Check.sentence("Changes nothing.");
         for (States.State state : States.all()) {
             Unchanged.by("nodeCount() " + state.name(), state.made(), PodemTestGen::nodeCount);
         }

@@ -1,15 +1,15 @@
 /** Promise 8: nodeKind. */
 public final class NodeKindTest {
     public static void main(String[] args) {
-        kinds();
-        outOfRange();
-        sealedOrNot();
-        changesNothing();
+        Check.sentence("`nodeKind(node)` answers KIND_INPUT for an input node, or the gate kind (0..7) for a gate.",
+            NodeKindTest::kinds);
+        Check.sentence("Answers -1 if node < 0 or node >= nodeCount.", NodeKindTest::outOfRange);
+        Check.sentence("Works whether or not the netlist is sealed.", NodeKindTest::sealedOrNot);
+        Check.sentence("Changes nothing.", NodeKindTest::changesNothing);
         Check.end();
     }
 
     private static void kinds() {
-        Check.sentence("`nodeKind(node)` answers KIND_INPUT for an input node, or the gate kind (0..7) for a gate.");
         PodemTestGen x = Nets.inputs(32, 3, 2);
         for (int kind = 0; kind <= 7; kind++) {
             x.addGate(kind, 1, 0);
@@ -22,7 +22,6 @@ public final class NodeKindTest {
     }
 
     private static void outOfRange() {
-        Check.sentence("Answers -1 if node < 0 or node >= nodeCount.");
         for (States.State state : States.all()) {
             PodemTestGen x = state.made().get();
             for (int node : Edges.outside(x.nodeCount())) {
@@ -40,7 +39,6 @@ public final class NodeKindTest {
     }
 
     private static void sealedOrNot() {
-        Check.sentence("Works whether or not the netlist is sealed.");
         int[] kinds = {8, 8, 2, 1, 2, 4};
         PodemTestGen x = Nets.redundant();
         for (int round = 0; round < 8; round++) {
@@ -53,7 +51,6 @@ public final class NodeKindTest {
     }
 
     private static void changesNothing() {
-        Check.sentence("Changes nothing.");
         for (States.State state : States.all()) {
             Unchanged.by("nodeKind " + state.name(), state.made(), NodeKindTest::askAll);
         }

@@ -7,26 +7,26 @@ public final class SealTest {
     private static final List<States.State> REFUSING = new ArrayList<>();
 
     public static void main(String[] args) {
-        refusedWhenSealed();
-        refusedWithoutInputs();
-        refusedWithoutOutputs();
-        refusedChangesNothing();
-        seals();
-        untriedAtFirst();
-        freezes();
-        staysFixed();
+        Check.sentence("1. already sealed: answers false;", SealTest::refusedWhenSealed);
+        Check.sentence("2. inputCount == 0: answers false;", SealTest::refusedWithoutInputs);
+        Check.sentence("3. no node is marked as output: answers false.", SealTest::refusedWithoutOutputs);
+        Check.sentence("A refused call changes nothing.", SealTest::refusedChangesNothing);
+        Check.sentence("and the call answers true.", SealTest::seals);
+        Check.sentence("every fault 0..2*nodeCount-1 gets STATUS_UNTRIED with detectedBy -1, testCount is 0",
+            SealTest::untriedAtFirst);
+        Check.sentence("From then on `addInput`, `addGate` and `markOutput` refuse every call", SealTest::freezes);
+        Check.sentence("so nodes, kinds, operands, inputCount and outputs stay fixed for the life of the object.",
+            SealTest::staysFixed);
         Check.end();
     }
 
     private static void refusedWhenSealed() {
-        Check.sentence("1. already sealed: answers false;");
         for (States.State state : States.sealed()) {
             refused(state.name(), state.made());
         }
     }
 
     private static void refusedWithoutInputs() {
-        Check.sentence("2. inputCount == 0: answers false;");
         refused("on an empty netlist", () -> new PodemTestGen(8, 1));
         refused("on an empty netlist", () -> new PodemTestGen(32, 10));
         refused("after refused gates and marks", SealTest::refusedGatesAndMarks);
@@ -36,7 +36,6 @@ public final class SealTest {
     }
 
     private static void refusedWithoutOutputs() {
-        Check.sentence("3. no node is marked as output: answers false.");
         for (int inputs = 1; inputs <= 10; inputs++) {
             int made = inputs;
             refused("with " + inputs + " inputs alone", () -> Nets.inputs(32, 10, made));
@@ -66,7 +65,6 @@ public final class SealTest {
     }
 
     private static void refusedChangesNothing() {
-        Check.sentence("A refused call changes nothing.");
         for (States.State state : REFUSING) {
             Unchanged.by("seal() " + state.name(), state.made(), PodemTestGen::seal);
         }
@@ -89,7 +87,6 @@ public final class SealTest {
     }
 
     private static void seals() {
-        Check.sentence("and the call answers true.");
         Check.due("seal() of one node", sealable(Nets.inputs(8, 1, 1), 0).seal(), true);
         Check.due("seal() of ten inputs", sealable(Nets.inputs(32, 10, 10), 9).seal(), true);
         Check.due("seal() of 32 nodes", sealable(Nets.inverters(32, 1, 32), 31).seal(), true);
@@ -101,7 +98,6 @@ public final class SealTest {
     }
 
     private static void untriedAtFirst() {
-        Check.sentence("every fault 0..2*nodeCount-1 gets STATUS_UNTRIED with detectedBy -1, testCount is 0");
         for (int nodes = 1; nodes <= 32; nodes++) {
             PodemTestGen x = Nets.sealedAt(Nets.inverters(32, 1, nodes), nodes - 1);
             for (int f = 0; f < 2 * nodes; f++) {
@@ -115,7 +111,6 @@ public final class SealTest {
     }
 
     private static void freezes() {
-        Check.sentence("From then on `addInput`, `addGate` and `markOutput` refuse every call");
         PodemTestGen x = Nets.sealedWithRoom();
         for (int i = 0; i < 70; i++) {
             Check.due("addInput() when sealed", x.addInput(), -1);
@@ -130,7 +125,6 @@ public final class SealTest {
     }
 
     private static void staysFixed() {
-        Check.sentence("so nodes, kinds, operands, inputCount and outputs stay fixed for the life of the object.");
         PodemTestGen x = Nets.sealedAt(Nets.redundant(), 5);
         for (int i = 0; i < 20; i++) {
             x.addInput();

@@ -1,17 +1,19 @@
 /** Promise 16: simulate. */
 public final class SimulateTest {
     public static void main(String[] args) {
-        whateverTheStatus();
-        equalsDetects();
-        leastAndMost();
-        sealedOrNot();
-        vectorOutOfRange();
-        changesNothing();
+        Check.sentence("answers how many faults f in [0, 2*nodeCount) the vector v detects, whatever their status.",
+            SimulateTest::whateverTheStatus);
+        Check.sentence("equals the number of f in that range for which `detects(v, f)` is true.",
+            SimulateTest::equalsDetects);
+        Check.sentence("The answer is in [0, 2*nodeCount]", SimulateTest::leastAndMost);
+        Check.sentence("Works whether or not the netlist is sealed.", SimulateTest::sealedOrNot);
+        Check.sentence("Answers -1 if v is out of range.", SimulateTest::vectorOutOfRange);
+        Check.sentence("Changes nothing; in particular no fault status, detectedBy or test changes.",
+            SimulateTest::changesNothing);
         Check.end();
     }
 
     private static void whateverTheStatus() {
-        Check.sentence("answers how many faults f in [0, 2*nodeCount) the vector v detects, whatever their status.");
         PodemTestGen x = Nets.sealedAt(Nets.redundant(), 5);
         int[] counts = {3, 5, 4, 4};
         for (int i = 0; i <= 6; i++) {
@@ -23,7 +25,6 @@ public final class SimulateTest {
     }
 
     private static void equalsDetects() {
-        Check.sentence("equals the number of f in that range for which `detects(v, f)` is true.");
         for (States.State state : States.all()) {
             PodemTestGen x = state.made().get();
             for (int v = 0; v < Nets.vectors(x); v++) {
@@ -37,7 +38,6 @@ public final class SimulateTest {
     }
 
     private static void leastAndMost() {
-        Check.sentence("The answer is in [0, 2*nodeCount]");
         Check.due("simulate(0) without nodes", new PodemTestGen(8, 1).simulate(0), 0);
         for (int inputs = 1; inputs <= 10; inputs++) {
             PodemTestGen bare = Nets.inputs(32, 10, inputs);
@@ -57,7 +57,6 @@ public final class SimulateTest {
     }
 
     private static void sealedOrNot() {
-        Check.sentence("Works whether or not the netlist is sealed.");
         PodemTestGen x = Nets.redundant();
         int[] counts = {3, 5, 4, 4};
         for (int round = 0; round < 2; round++) {
@@ -69,7 +68,6 @@ public final class SimulateTest {
     }
 
     private static void vectorOutOfRange() {
-        Check.sentence("Answers -1 if v is out of range.");
         for (States.State state : States.all()) {
             PodemTestGen x = state.made().get();
             for (int v : Edges.outside(Nets.vectors(x))) {
@@ -87,7 +85,6 @@ public final class SimulateTest {
     }
 
     private static void changesNothing() {
-        Check.sentence("Changes nothing; in particular no fault status, detectedBy or test changes.");
         for (States.State state : States.all()) {
             Unchanged.by("simulate " + state.name(), state.made(), SimulateTest::askAll);
         }

@@ -1,26 +1,32 @@
 /** The sentences of the section "Terms" that the promises rest on. */
 public final class TermsTest {
     public static void main(String[] args) {
-        nodeIndices();
-        inputOrdinals();
-        vectorRange();
-        vectorBits();
-        vectorsOutOfRange();
-        theOnlyVectorWithoutInputs();
-        sameOperandTwice();
-        faultIndices();
-        faultTotal();
-        stuckInputs();
-        stuckNodesAreSeen();
-        someOutputDiffers();
-        noOutputs();
-        statusesOnlyWhenSealed();
-        testsInOrder();
+        Check.sentence("Nodes get indices 0, 1, 2, ... in the order they are added.", TermsTest::nodeIndices);
+        Check.sentence("The k-th input added (k = 0, 1, ...) has input ordinal k.", TermsTest::inputOrdinals);
+        Check.sentence("A vector is an int v with 0 <= v < (1 << inputCount).", TermsTest::vectorRange);
+        Check.sentence("Input ordinal k takes the value (v >> k) & 1.", TermsTest::vectorBits);
+        Check.sentence("Any other int, including every negative int, is out of range.", TermsTest::vectorsOutOfRange);
+        Check.sentence("With inputCount = 0 the only vector in range is 0.", TermsTest::theOnlyVectorWithoutInputs);
+        Check.sentence("Both operands of a gate may be the same node.", TermsTest::sameOperandTwice);
+        Check.sentence("Fault index f = 2*n + s, with node n in [0, nodeCount) and s in {0, 1}.",
+            TermsTest::faultIndices);
+        Check.sentence("There are 2*nodeCount faults (at most 64).", TermsTest::faultTotal);
+        Check.sentence("This is the good evaluation, except that node n's value is replaced by s. This holds for an "
+                + "input node too.",
+            TermsTest::stuckInputs);
+        Check.sentence("Every gate reading n sees s.", TermsTest::stuckNodesAreSeen);
+        Check.sentence("v detects f when some node marked as an output has a different value",
+            TermsTest::someOutputDiffers);
+        Check.sentence("With no node marked as output, no vector detects any fault.", TermsTest::noOutputs);
+        Check.sentence("Only after `seal()`, each fault has one of `STATUS_UNTRIED`, `STATUS_DETECTED` or "
+                + "`STATUS_UNTESTABLE`, and a detecting test index `detectedBy` (-1 when none).",
+            TermsTest::statusesOnlyWhenSealed);
+        Check.sentence("A test is a recorded pair (vector, target fault), indexed 0, 1, ... in the order recorded.",
+            TermsTest::testsInOrder);
         Check.end();
     }
 
     private static void nodeIndices() {
-        Check.sentence("Nodes get indices 0, 1, 2, ... in the order they are added.");
         PodemTestGen x = new PodemTestGen(32, 10);
         for (int n = 0; n < 32; n++) {
             boolean input = n % 4 == 0;
@@ -31,7 +37,6 @@ public final class TermsTest {
     }
 
     private static void inputOrdinals() {
-        Check.sentence("The k-th input added (k = 0, 1, ...) has input ordinal k.");
         PodemTestGen x = Nets.inputs(32, 10, 1);
         for (int k = 1; k < 10; k++) {
             x.addGate(PodemTestGen.KIND_XNOR, 0, 0);
@@ -45,7 +50,6 @@ public final class TermsTest {
     }
 
     private static void vectorRange() {
-        Check.sentence("A vector is an int v with 0 <= v < (1 << inputCount).");
         for (int inputs = 0; inputs <= 10; inputs++) {
             PodemTestGen x = Nets.inputs(32, 10, inputs);
             for (int v = -3; v <= 1 << 11; v++) {
@@ -55,7 +59,6 @@ public final class TermsTest {
     }
 
     private static void vectorBits() {
-        Check.sentence("Input ordinal k takes the value (v >> k) & 1.");
         PodemTestGen x = Nets.inputs(32, 10, 10);
         for (int v = 0; v < 1024; v++) {
             for (int k = 0; k < 10; k++) {
@@ -65,7 +68,6 @@ public final class TermsTest {
     }
 
     private static void vectorsOutOfRange() {
-        Check.sentence("Any other int, including every negative int, is out of range.");
         for (int inputs = 1; inputs <= 10; inputs++) {
             PodemTestGen x = Nets.parity(inputs);
             for (int v : Edges.outside(1 << inputs)) {
@@ -89,7 +91,6 @@ public final class TermsTest {
     }
 
     private static void theOnlyVectorWithoutInputs() {
-        Check.sentence("With inputCount = 0 the only vector in range is 0.");
         PodemTestGen x = new PodemTestGen(32, 10);
         Check.due("simulate(0)", x.simulate(0), 0);
         for (int v : Edges.outside(1)) {
@@ -102,7 +103,6 @@ public final class TermsTest {
     }
 
     private static void sameOperandTwice() {
-        Check.sentence("Both operands of a gate may be the same node.");
         String[] values = {"01", "10", "01", "10", "01", "10", "00", "11"};
         for (int kind = 0; kind <= 7; kind++) {
             PodemTestGen x = Nets.inputs(8, 2, 2);
@@ -116,7 +116,6 @@ public final class TermsTest {
     }
 
     private static void faultIndices() {
-        Check.sentence("Fault index f = 2*n + s, with node n in [0, nodeCount) and s in {0, 1}.");
         PodemTestGen x = Nets.inverters(32, 1, 32);
         for (int n = 0; n < 32; n++) {
             x.markOutput(n);
@@ -131,7 +130,6 @@ public final class TermsTest {
     }
 
     private static void faultTotal() {
-        Check.sentence("There are 2*nodeCount faults (at most 64).");
         for (int nodes = 1; nodes <= 32; nodes++) {
             PodemTestGen x = Nets.sealedAt(Nets.inverters(32, 1, nodes), nodes - 1);
             for (int f = -1; f <= 66; f++) {
@@ -142,7 +140,6 @@ public final class TermsTest {
     }
 
     private static void stuckInputs() {
-        Check.sentence("This is the good evaluation, except that node n's value is replaced by s. This holds for an input node too.");
         for (int inputs = 1; inputs <= 10; inputs++) {
             PodemTestGen x = Nets.inputs(32, 10, inputs);
             for (int n = 0; n < inputs; n++) {
@@ -157,7 +154,6 @@ public final class TermsTest {
     }
 
     private static void stuckNodesAreSeen() {
-        Check.sentence("Every gate reading n sees s.");
         PodemTestGen x = Nets.inputs(32, 1, 1);
         for (int n = 1; n < 32; n++) {
             x.addGate(n % 2, n - 1, 0);
@@ -173,7 +169,6 @@ public final class TermsTest {
     }
 
     private static void someOutputDiffers() {
-        Check.sentence("v detects f when some node marked as an output has a different value");
         for (int output = 1; output < 32; output++) {
             PodemTestGen x = Nets.inverters(32, 1, 32);
             x.markOutput(output);
@@ -185,7 +180,6 @@ public final class TermsTest {
     }
 
     private static void noOutputs() {
-        Check.sentence("With no node marked as output, no vector detects any fault.");
         for (int inputs = 1; inputs <= 10; inputs++) {
             PodemTestGen x = Nets.inputs(32, 10, inputs);
             x.addGate(PodemTestGen.KIND_XOR, 0, inputs - 1);
@@ -201,8 +195,6 @@ public final class TermsTest {
     }
 
     private static void statusesOnlyWhenSealed() {
-        Check.sentence("Only after `seal()`, each fault has one of `STATUS_UNTRIED`, `STATUS_DETECTED` or `STATUS_UNTESTABLE`,"
-            + " and a detecting test index `detectedBy` (-1 when none).");
         for (States.State state : States.open()) {
             PodemTestGen x = state.made().get();
             for (int f = 0; f < 64; f++) {
@@ -221,7 +213,6 @@ public final class TermsTest {
     }
 
     private static void testsInOrder() {
-        Check.sentence("A test is a recorded pair (vector, target fault), indexed 0, 1, ... in the order recorded.");
         PodemTestGen x = Nets.sealedAt(Nets.chain(PodemTestGen.KIND_OR, 10), 18);
         Check.due("testVector(0)", Nets.after(x, 1).testVector(0), 1);
         Check.due("testVector(1)", Nets.after(x, 1).testVector(1), 0);

@@ -1,15 +1,15 @@
 /** Promise 12: testCount. */
 public final class TestCountTest {
     public static void main(String[] args) {
-        beforeSeal();
-        rightAfterSeal();
-        countsVectorsOnly();
-        changesNothing();
+        Check.sentence("`testCount()` answers the number of tests recorded: 0 before seal", TestCountTest::beforeSeal);
+        Check.sentence("0 right after seal", TestCountTest::rightAfterSeal);
+        Check.sentence("increased by one by each `nextTest()` call that answers a vector.",
+            TestCountTest::countsVectorsOnly);
+        Check.sentence("Changes nothing.", TestCountTest::changesNothing);
         Check.end();
     }
 
     private static void beforeSeal() {
-        Check.sentence("`testCount()` answers the number of tests recorded: 0 before seal");
         for (States.State state : States.open()) {
             PodemTestGen x = state.made().get();
             Check.due("testCount() " + state.name(), x.testCount(), 0);
@@ -20,7 +20,6 @@ public final class TestCountTest {
     }
 
     private static void rightAfterSeal() {
-        Check.sentence("0 right after seal");
         for (int nodes = 1; nodes <= 32; nodes++) {
             PodemTestGen x = Nets.after(Nets.inverters(32, 1, nodes), 3);
             Check.due("testCount() of " + nodes + " nodes after seal()", Nets.sealedAt(x, 0).testCount(), 0);
@@ -29,7 +28,6 @@ public final class TestCountTest {
     }
 
     private static void countsVectorsOnly() {
-        Check.sentence("increased by one by each `nextTest()` call that answers a vector.");
         PodemTestGen x = Nets.sealedAt(Nets.redundant(), 5);
         int[] counts = {1, 2, 3, 3, 3, 3, 3};
         for (int count : counts) {
@@ -54,7 +52,6 @@ public final class TestCountTest {
     }
 
     private static void changesNothing() {
-        Check.sentence("Changes nothing.");
         for (States.State state : States.all()) {
             Unchanged.by("testCount() " + state.name(), state.made(), PodemTestGen::testCount);
         }

@@ -1,16 +1,19 @@
 /** Promise 13: testVector and testTarget. */
 public final class TestVectorAndTargetTest {
     public static void main(String[] args) {
-        vectorsAndTargets();
-        outOfRange();
-        vectorsAreTrue();
-        targetsWereHandled();
-        changeNothing();
+        Check.sentence("`testVector(t)` answers the vector of test t, and `testTarget(t)` answers the target fault of "
+                + "test t.",
+            TestVectorAndTargetTest::vectorsAndTargets);
+        Check.sentence("Both answer -1 if t < 0 or t >= testCount.", TestVectorAndTargetTest::outOfRange);
+        Check.sentence("A recorded vector is in [0, 1 << inputCount) and detects its target fault",
+            TestVectorAndTargetTest::vectorsAreTrue);
+        Check.sentence("the target is the fault that `nextTest()` handled when it recorded the test.",
+            TestVectorAndTargetTest::targetsWereHandled);
+        Check.sentence("Neither method changes anything.", TestVectorAndTargetTest::changeNothing);
         Check.end();
     }
 
     private static void vectorsAndTargets() {
-        Check.sentence("`testVector(t)` answers the vector of test t, and `testTarget(t)` answers the target fault of test t.");
         PodemTestGen x = Nets.sealedAt(Nets.redundant(), 5);
         int[] vectors = {3, 2, 1};
         int[] targets = {0, 1, 3};
@@ -24,7 +27,6 @@ public final class TestVectorAndTargetTest {
     }
 
     private static void outOfRange() {
-        Check.sentence("Both answer -1 if t < 0 or t >= testCount.");
         for (States.State state : States.all()) {
             PodemTestGen x = state.made().get();
             for (int t : Edges.outside(x.testCount())) {
@@ -39,7 +41,6 @@ public final class TestVectorAndTargetTest {
     }
 
     private static void vectorsAreTrue() {
-        Check.sentence("A recorded vector is in [0, 1 << inputCount) and detects its target fault");
         for (int inputs = 1; inputs <= 10; inputs++) {
             for (int kind = 2; kind <= 7; kind++) {
                 PodemTestGen x = Nets.chain(kind, inputs);
@@ -56,7 +57,6 @@ public final class TestVectorAndTargetTest {
     }
 
     private static void targetsWereHandled() {
-        Check.sentence("the target is the fault that `nextTest()` handled when it recorded the test.");
         PodemTestGen x = Nets.sealedAt(Nets.chain(PodemTestGen.KIND_AND, 10), 18);
         Nets.after(x, 20);
         Check.due("testTarget(0)", x.testTarget(0), 0);
@@ -66,7 +66,6 @@ public final class TestVectorAndTargetTest {
     }
 
     private static void changeNothing() {
-        Check.sentence("Neither method changes anything.");
         for (States.State state : States.all()) {
             Unchanged.by("testVector " + state.name(), state.made(), TestVectorAndTargetTest::askVectors);
             Unchanged.by("testTarget " + state.name(), state.made(), TestVectorAndTargetTest::askTargets);

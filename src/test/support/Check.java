@@ -4,63 +4,74 @@ final class Check {
 
     private static String sentence = "";
     private static int sentences = 0;
-    private static int madeHere = 0;
     private static int made = 0;
     private static int wrong = 0;
 
     private Check() {
     }
 
-    /** What is checked from here on, until the next sentence, is what this sentence of the document says. */
-    static void sentence(String quote) {
-        closeSentence();
-        sentence = quote;
+    /**
+     * Runs the checks of what one sentence of the document, quoted, says. A throw
+     * is a wrong answer too, and the sentences after it are still looked at.
+     */
+    static void sentence(String quote, Runnable checks) {
+        sentence = "\"" + quote + "\": ";
         sentences++;
-        madeHere = 0;
+        int before = made;
+        try {
+            checks.run();
+        } catch (RuntimeException e) {
+            wrong("a call threw " + e);
+            e.printStackTrace();
+        }
+        if (made == before) {
+            wrong("nothing was looked at");
+        }
+        sentence = "";
     }
 
     static void due(String what, long got, long want) {
-        note(got == want, what, String.valueOf(got), String.valueOf(want));
+        made++;
+        if (got != want) {
+            wrong(what + " answered " + got + ", due is " + want);
+        }
     }
 
     static void due(String what, boolean got, boolean want) {
-        note(got == want, what, String.valueOf(got), String.valueOf(want));
+        made++;
+        if (got != want) {
+            wrong(what + " answered " + got + ", due is " + want);
+        }
     }
 
     /** Of long texts only the place where they part is shown. */
     static void due(String what, String got, String want) {
+        made++;
+        if (!got.equals(want)) {
+            int from = Math.max(0, firstDifference(got, want) - SHOWN / 2);
+            wrong(what + " answered " + shown(got, from) + ", due is " + shown(want, from));
+        }
+    }
+
+    private static int firstDifference(String a, String b) {
         int same = 0;
-        while (same < got.length() && same < want.length() && got.charAt(same) == want.charAt(same)) {
+        while (same < a.length() && same < b.length() && a.charAt(same) == b.charAt(same)) {
             same++;
         }
-        int from = Math.max(0, same - SHOWN / 2);
-        note(got.equals(want), what, shown(got, from), shown(want, from));
+        return same;
     }
 
     private static String shown(String text, int from) {
         return "'" + text.substring(Math.min(from, text.length()), Math.min(from + SHOWN, text.length())) + "'";
     }
 
-    private static void note(boolean right, String what, String got, String want) {
-        made++;
-        madeHere++;
-        if (!right) {
-            wrong++;
-            String where = sentence.isEmpty() ? "" : "\"" + sentence + "\": ";
-            System.out.println(where + what + " answered " + got + ", due is " + want);
-        }
+    private static void wrong(String what) {
+        wrong++;
+        System.out.println(sentence + what);
     }
 
-    /** A sentence, or a test, that checks nothing proves nothing, so it fails too. */
-    private static void closeSentence() {
-        if (!sentence.isEmpty() && madeHere == 0) {
-            wrong++;
-            System.out.println("\"" + sentence + "\": nothing was looked at");
-        }
-    }
-
+    /** A test that looked at nothing proves nothing, so it fails too. */
     static void end() {
-        closeSentence();
         String of = sentences == 0 ? "" : sentences + " sentences, ";
         System.out.println(of + made + " answers looked at, " + wrong + " not as due");
         if (wrong != 0 || made == 0) {
