@@ -30,7 +30,8 @@ public final class AddInputTest {
     private static void refusedAtTheNodeLimit() {
         for (int limit = 8; limit <= 32; limit++) {
             int nodes = limit;
-            Check.due("addInput() one below node limit " + limit, Nets.inverters(limit, 10, limit - 1).addInput(), limit - 1);
+            PodemTestGen below = Nets.inverters(limit, 10, limit - 1);
+            Check.due("addInput() one below node limit " + limit, below.addInput(), limit - 1);
             refused("at node limit " + limit, () -> Nets.inverters(nodes, 10, nodes));
         }
         refused("at node limit 8, with eight inputs of ten", () -> Nets.inputs(8, 10, 8));
@@ -39,7 +40,8 @@ public final class AddInputTest {
     private static void refusedAtTheInputLimit() {
         for (int limit = 1; limit <= 10; limit++) {
             int inputs = limit;
-            Check.due("addInput() one below input limit " + limit, Nets.inputs(32, limit, limit - 1).addInput(), limit - 1);
+            PodemTestGen below = Nets.inputs(32, limit, limit - 1);
+            Check.due("addInput() one below input limit " + limit, below.addInput(), limit - 1);
             refused("at input limit " + limit, () -> Nets.inputs(32, inputs, inputs));
         }
         refused("at input limit 10, after gates", () -> Nets.parity(10));

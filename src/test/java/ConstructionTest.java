@@ -1,7 +1,8 @@
 /** Promise 1: a new object is empty and unsealed, and its limits are clamped. */
 public final class ConstructionTest {
     private static final int[] FAR_BELOW = {
-        Integer.MIN_VALUE, Integer.MIN_VALUE + 1, Integer.MIN_VALUE + 20, -65536, -1000, -256, -32, -20, -10, -8, -5, -2, -1, 0};
+        Integer.MIN_VALUE, Integer.MIN_VALUE + 1, Integer.MIN_VALUE + 20, -65536, -1000, -256, -32, -20, -10, -8, -5,
+        -2, -1, 0};
     private static final int[] FAR_ABOVE = {
         40, 63, 64, 100, 128, 256 + 9, 1024, 65536 + 5, 1 << 20, 1 << 30, Integer.MAX_VALUE - 20,
         Integer.MAX_VALUE - 1, Integer.MAX_VALUE};

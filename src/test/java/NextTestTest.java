@@ -3,6 +3,10 @@ import java.util.List;
 
 /** Promise 6: nextTest. */
 public final class NextTestTest {
+    private static final int UNTRIED = PodemTestGen.STATUS_UNTRIED;
+    private static final int DETECTED = PodemTestGen.STATUS_DETECTED;
+    private static final int UNTESTABLE = PodemTestGen.STATUS_UNTESTABLE;
+
     public static void main(String[] args) {
         Check.sentence("1. not sealed: answers RESULT_NONE;", NextTestTest::refusedBeforeSeal);
         Check.sentence("2. no fault has STATUS_UNTRIED: answers RESULT_NONE.", NextTestTest::refusedWithNoFaultLeft);
@@ -45,7 +49,7 @@ public final class NextTestTest {
         for (States.State state : done()) {
             PodemTestGen x = state.made().get();
             for (int f = 0; f < 2 * x.nodeCount(); f++) {
-                Check.due("fault " + f + " is left", x.faultStatus(f) == PodemTestGen.STATUS_UNTRIED, false);
+                Check.due("fault " + f + " is left", x.faultStatus(f) == UNTRIED, false);
             }
             for (int i = 0; i < 70; i++) {
                 Check.due("nextTest() " + state.name(), x.nextTest(), PodemTestGen.RESULT_NONE);
@@ -67,7 +71,7 @@ public final class NextTestTest {
         return List.of(
             new States.State("after one node's faults", () -> Nets.after(Nets.sealedAt(Nets.inputs(8, 1, 1), 0), 2)),
             new States.State("after redundant's faults", () -> Nets.after(Nets.sealedAt(Nets.redundant(), 5), 5)),
-            new States.State("after the faults of ten inputs", () -> Nets.after(Nets.sealedAt(Nets.parity(10), 18), 38)),
+            new States.State("after a parity's faults", () -> Nets.after(Nets.sealedAt(Nets.parity(10), 18), 38)),
             new States.State("after 64 faults", () -> Nets.after(Nets.sealedAt(Nets.inverters(32, 1, 32), 0), 64)));
     }
 
@@ -107,11 +111,11 @@ public final class NextTestTest {
             for (int f = leastUntried(x); f >= 0; f = leastUntried(x)) {
                 int answer = x.nextTest();
                 Check.due("status of the least untried fault " + f,
-                    x.faultStatus(f), answer >= 0 ? PodemTestGen.STATUS_DETECTED : PodemTestGen.STATUS_UNTESTABLE);
+                    x.faultStatus(f), answer >= 0 ? DETECTED : UNTESTABLE);
                 if (answer >= 0) {
                     Check.due("testTarget of the new test", x.testTarget(x.testCount() - 1), f);
                 }
-                if (x.faultStatus(f) == PodemTestGen.STATUS_UNTRIED) {
+                if (x.faultStatus(f) == UNTRIED) {
                     break;
                 }
             }
@@ -122,7 +126,8 @@ public final class NextTestTest {
         for (PodemTestGen x : sealedNets()) {
             for (int i = 0; i < 64; i++) {
                 int f = leastUntried(x);
-                Check.due("nextTest() for fault " + f, x.nextTest(), f < 0 ? PodemTestGen.RESULT_NONE : leastDetecting(x, f));
+                int due = f < 0 ? PodemTestGen.RESULT_NONE : leastDetecting(x, f);
+                Check.due("nextTest() for fault " + f, x.nextTest(), due);
             }
         }
         PodemTestGen and = Nets.sealedAt(Nets.chain(PodemTestGen.KIND_AND, 10), 18);
@@ -139,13 +144,13 @@ public final class NextTestTest {
         PodemTestGen x = Nets.after(Nets.sealedAt(Nets.inverters(32, 1, 32), 0), 2);
         for (int f = 2; f < 64; f++) {
             Check.due("nextTest() for fault " + f, x.nextTest(), PodemTestGen.RESULT_UNTESTABLE);
-            Check.due("faultStatus(" + f + ")", x.faultStatus(f), PodemTestGen.STATUS_UNTESTABLE);
+            Check.due("faultStatus(" + f + ")", x.faultStatus(f), UNTESTABLE);
         }
         PodemTestGen wide = Nets.parity(10);
         int zero = wide.addGate(PodemTestGen.KIND_XOR, 18, 18);
         Nets.after(Nets.sealedAt(wide, zero), 64);
-        Check.due("status of a node that is always 0 stuck at 0", wide.faultStatus(2 * zero), PodemTestGen.STATUS_UNTESTABLE);
-        Check.due("status of a node that is always 0 stuck at 1", wide.faultStatus(2 * zero + 1), PodemTestGen.STATUS_DETECTED);
+        Check.due("status of a node that is always 0 stuck at 0", wide.faultStatus(2 * zero), UNTESTABLE);
+        Check.due("status of a node that is always 0 stuck at 1", wide.faultStatus(2 * zero + 1), DETECTED);
     }
 
     private static void untestableChangesOneFaultAlone() {
@@ -156,7 +161,7 @@ public final class NextTestTest {
             Check.due("testCount()", x.testCount(), 2);
             Check.due("testVector(2)", x.testVector(2), -1);
             for (int g = 0; g < 64; g++) {
-                int status = g < 2 ? PodemTestGen.STATUS_DETECTED : g <= f ? PodemTestGen.STATUS_UNTESTABLE : PodemTestGen.STATUS_UNTRIED;
+                int status = g < 2 ? DETECTED : g <= f ? UNTESTABLE : UNTRIED;
                 Check.due("faultStatus(" + g + ") after fault " + f, x.faultStatus(g), status);
                 Check.due("detectedBy(" + g + ") after fault " + f, x.detectedBy(g), g < 2 ? g : -1);
             }
@@ -183,9 +188,9 @@ public final class NextTestTest {
                 int[] statuses = statuses(x);
                 int v = x.nextTest();
                 for (int g = 0; v >= 0 && g < statuses.length; g++) {
-                    if (statuses[g] == PodemTestGen.STATUS_UNTRIED) {
+                    if (statuses[g] == UNTRIED) {
                         boolean found = x.detects(v, g);
-                        Check.due("faultStatus(" + g + ")", x.faultStatus(g), found ? PodemTestGen.STATUS_DETECTED : PodemTestGen.STATUS_UNTRIED);
+                        Check.due("faultStatus(" + g + ")", x.faultStatus(g), found ? DETECTED : UNTRIED);
                         Check.due("detectedBy(" + g + ")", x.detectedBy(g), found ? t : -1);
                     }
                 }
@@ -200,7 +205,7 @@ public final class NextTestTest {
                 int[] detectors = detectors(x);
                 x.nextTest();
                 for (int g = 0; g < statuses.length; g++) {
-                    if (statuses[g] != PodemTestGen.STATUS_UNTRIED) {
+                    if (statuses[g] != UNTRIED) {
                         Check.due("faultStatus(" + g + ")", x.faultStatus(g), statuses[g]);
                         Check.due("detectedBy(" + g + ")", x.detectedBy(g), detectors[g]);
                     }
@@ -229,7 +234,8 @@ public final class NextTestTest {
         for (int nodes = 1; nodes <= 32; nodes++) {
             PodemTestGen x = Nets.sealedAt(Nets.inverters(32, 1, nodes), 0);
             for (int i = 0; i < 2 * nodes; i++) {
-                Check.due("handling call " + i + " of " + nodes + " nodes", x.nextTest() != PodemTestGen.RESULT_NONE, true);
+                boolean handled = x.nextTest() != PodemTestGen.RESULT_NONE;
+                Check.due("call " + i + " of " + nodes + " nodes handles a fault", handled, true);
             }
             for (int i = 0; i < 10; i++) {
                 Check.due("a further call", x.nextTest(), PodemTestGen.RESULT_NONE);
@@ -242,7 +248,7 @@ public final class NextTestTest {
                 int[] statuses = statuses(x);
                 int untried = 0;
                 for (int status : statuses) {
-                    untried += status == PodemTestGen.STATUS_UNTRIED ? 1 : 0;
+                    untried += status == UNTRIED ? 1 : 0;
                 }
                 Check.due("a fault was handled", untried < left || untried == 0, true);
                 left = untried;
@@ -259,7 +265,7 @@ public final class NextTestTest {
                 Check.due("test " + t + " detects its target", x.detects(x.testVector(t), x.testTarget(t)), true);
             }
             for (int f = 0; f < 2 * x.nodeCount(); f++) {
-                boolean untestable = x.faultStatus(f) == PodemTestGen.STATUS_UNTESTABLE;
+                boolean untestable = x.faultStatus(f) == UNTESTABLE;
                 Check.due("some vector detects fault " + f, leastDetecting(x, f) >= 0, !untestable);
                 if (!untestable) {
                     Check.due("its test detects fault " + f, x.detects(x.testVector(x.detectedBy(f)), f), true);
@@ -286,7 +292,7 @@ public final class NextTestTest {
 
     private static int leastUntried(PodemTestGen x) {
         for (int f = 0; f < 2 * x.nodeCount(); f++) {
-            if (x.faultStatus(f) == PodemTestGen.STATUS_UNTRIED) {
+            if (x.faultStatus(f) == UNTRIED) {
                 return f;
             }
         }

@@ -1,6 +1,6 @@
-import java.util.function.Supplier;
 import java.util.ArrayList;
 import java.util.List;
+import java.util.function.Supplier;
 
 /** Promise 5: seal. */
 public final class SealTest {
@@ -101,7 +101,8 @@ public final class SealTest {
         for (int nodes = 1; nodes <= 32; nodes++) {
             PodemTestGen x = Nets.sealedAt(Nets.inverters(32, 1, nodes), nodes - 1);
             for (int f = 0; f < 2 * nodes; f++) {
-                Check.due("faultStatus(" + f + ") of " + nodes + " nodes", x.faultStatus(f), PodemTestGen.STATUS_UNTRIED);
+                int status = x.faultStatus(f);
+                Check.due("faultStatus(" + f + ") of " + nodes + " nodes", status, PodemTestGen.STATUS_UNTRIED);
                 Check.due("detectedBy(" + f + ") of " + nodes + " nodes", x.detectedBy(f), -1);
             }
             Check.due("faultStatus past the last", x.faultStatus(2 * nodes), -1);

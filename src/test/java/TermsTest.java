@@ -53,7 +53,8 @@ public final class TermsTest {
         for (int inputs = 0; inputs <= 10; inputs++) {
             PodemTestGen x = Nets.inputs(32, 10, inputs);
             for (int v = -3; v <= 1 << 11; v++) {
-                Check.due("simulate(" + v + ") with " + inputs + " inputs", x.simulate(v), v >= 0 && v < 1 << inputs ? 0 : -1);
+                boolean vector = v >= 0 && v < 1 << inputs;
+                Check.due("simulate(" + v + ") with " + inputs + " inputs", x.simulate(v), vector ? 0 : -1);
             }
         }
     }
