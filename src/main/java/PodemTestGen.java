@@ -106,7 +106,9 @@ public final class PodemTestGen {
     }
 
     public int nextTest() {
-        if (!sealed) {
+        // After MAX_FAULTS tests no fault is untried; the count is looked at all
+        // the same, since recordTest takes it for an index.
+        if (!sealed || testTotal >= MAX_FAULTS) {
             return RESULT_NONE;
         }
         int target = leastUntriedFault();

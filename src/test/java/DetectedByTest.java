@@ -22,6 +22,14 @@ public final class DetectedByTest {
             }
             x.nextTest();
         }
+        // Test 0 is input 0 alone, so it shows every other input and every gate stuck at 1.
+        PodemTestGen most = Nets.after(Nets.sealedAt(Nets.pairs(), 0), 40);
+        for (int n = 1; n < 32; n++) {
+            Check.due("detectedBy(" + 2 * n + ") of 33 tests", most.detectedBy(2 * n), n + 1);
+            Check.due("detectedBy(" + (2 * n + 1) + ") of 33 tests", most.detectedBy(2 * n + 1), 0);
+        }
+        Check.due("detectedBy(0) of 33 tests", most.detectedBy(0), 0);
+        Check.due("detectedBy(1) of 33 tests", most.detectedBy(1), 1);
     }
 
     private static void staysInItsRange() {

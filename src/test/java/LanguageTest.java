@@ -1,4 +1,6 @@
 import com.sun.source.tree.ArrayTypeTree;
+import com.sun.source.tree.AssignmentTree;
+import com.sun.source.tree.BinaryTree;
 import com.sun.source.tree.BlockTree;
 import com.sun.source.tree.ClassTree;
 import com.sun.source.tree.CompilationUnitTree;
@@ -34,7 +36,8 @@ import javax.tools.ToolProvider;
  * LANGUAGE.md, as far as it can be seen from the class's source (rule 1 is
  * FaceTest's). Where a rule leaves a choice that the class doesn't need, the
  * test is stricter than the rule: there is no local variable that names an
- * array, every array field is final, and every loop is a for with a condition.
+ * array, every array field is final, no array that a method is handed changes
+ * to another one, and every loop is a for with a condition.
  */
 public final class LanguageTest extends TreePathScanner<Void, Void> {
     private static final Set<Tree.Kind> RULED_OUT = Set.of(
@@ -50,6 +53,9 @@ public final class LanguageTest extends TreePathScanner<Void, Void> {
     private final CompilationUnitTree unit;
     private final Trees trees;
     private final Map<String, Set<String>> calls = new TreeMap<>();
+    private final Set<String> arrays = new TreeSet<>();
+    private final Set<String> assigned = new TreeSet<>();
+    private final Set<String> compared = new TreeSet<>();
     private int fields = 0;
 
     private LanguageTest(CompilationUnitTree unit, Trees trees) {
@@ -68,6 +74,7 @@ public final class LanguageTest extends TreePathScanner<Void, Void> {
             test.scan(unit, null);
             Check.due("fields beside the constants are at most 40", test.fields <= 40, true);
             test.callDepths();
+            test.arraysStay();
         }
         Check.end();
     }
@@ -94,6 +101,9 @@ public final class LanguageTest extends TreePathScanner<Void, Void> {
         boolean array = variable.getType() instanceof ArrayTypeTree;
         Set<Modifier> modifiers = variable.getModifiers().getFlags();
         Check.due("the type of " + name + " is allowed", isAllowed(variable.getType()), true);
+        if (array) {
+            arrays.add(variable.getName().toString());
+        }
         if (getCurrentPath().getParentPath().getLeaf() instanceof ClassTree) {
             fields += modifiers.contains(Modifier.STATIC) ? 0 : 1;
             Check.due(name + " is a final array", modifiers.contains(Modifier.FINAL) || !array, true);
@@ -157,6 +167,33 @@ public final class LanguageTest extends TreePathScanner<Void, Void> {
             Check.due(where + " has a fixed length", constant || length instanceof LiteralTree, true);
         }
         return super.visitNewArray(array, none);
+    }
+
+    @Override
+    public Void visitAssignment(AssignmentTree assignment, Void none) {
+        assigned.add(withoutThis(assignment.getVariable()));
+        return super.visitAssignment(assignment, none);
+    }
+
+    @Override
+    public Void visitBinary(BinaryTree binary, Void none) {
+        if (binary.getKind() == Tree.Kind.EQUAL_TO || binary.getKind() == Tree.Kind.NOT_EQUAL_TO) {
+            compared.add(withoutThis(binary.getLeftOperand()));
+            compared.add(withoutThis(binary.getRightOperand()));
+        }
+        return super.visitBinary(binary, none);
+    }
+
+    private static String withoutThis(Tree operand) {
+        return operand.toString().replaceFirst("^this\\.", "");
+    }
+
+    /** An array's name stands for the same array from first to last, and is asked for nothing but its elements. */
+    private void arraysStay() {
+        for (String array : arrays) {
+            Check.due("the array " + array + " is assigned to", assigned.contains(array), false);
+            Check.due("the array " + array + " is compared", compared.contains(array), false);
+        }
     }
 
     /** A name with a dot would reach a class of the library, or a member of another object. */

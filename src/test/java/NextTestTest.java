@@ -21,6 +21,7 @@ public final class NextTestTest {
         Check.sentence("A test is appended at index t = testCount, with vector v and target f, and testCount is "
                 + "incremented.",
             NextTestTest::recordsATest);
+        Check.sentence("A test is appended at index t = testCount", NextTestTest::recordsMoreTestsThanNodes);
         Check.sentence("Every fault g with STATUS_UNTRIED that v detects (f among them) gets STATUS_DETECTED and "
                 + "detectedBy t.",
             NextTestTest::marksWhatTheVectorDetects);
@@ -72,6 +73,7 @@ public final class NextTestTest {
             new States.State("after one node's faults", () -> Nets.after(Nets.sealedAt(Nets.inputs(8, 1, 1), 0), 2)),
             new States.State("after redundant's faults", () -> Nets.after(Nets.sealedAt(Nets.redundant(), 5), 5)),
             new States.State("after a parity's faults", () -> Nets.after(Nets.sealedAt(Nets.parity(10), 18), 38)),
+            new States.State("after more tests than nodes", () -> Nets.after(Nets.sealedAt(Nets.pairs(), 0), 33)),
             new States.State("after 64 faults", () -> Nets.after(Nets.sealedAt(Nets.inverters(32, 1, 32), 0), 64)));
     }
 
@@ -181,6 +183,20 @@ public final class NextTestTest {
         }
     }
 
+    private static void recordsMoreTestsThanNodes() {
+        PodemTestGen x = Nets.sealedAt(Nets.pairs(), 0);
+        int[] vectors = Nets.pairVectors();
+        for (int t = 0; t < vectors.length; t++) {
+            int target = t < 2 ? t : 2 * (t - 1);
+            Check.due("nextTest() number " + t, x.nextTest(), vectors[t]);
+            Check.due("testCount()", x.testCount(), t + 1);
+            Check.due("testVector(" + t + ")", x.testVector(t), vectors[t]);
+            Check.due("testTarget(" + t + ")", x.testTarget(t), target);
+            Check.due("detectedBy(" + target + ")", x.detectedBy(target), t);
+        }
+        Check.due("nextTest() after the last", x.nextTest(), PodemTestGen.RESULT_NONE);
+    }
+
     private static void marksWhatTheVectorDetects() {
         for (PodemTestGen x : sealedNets()) {
             for (int i = 0; i < 64; i++) {
@@ -287,6 +303,7 @@ public final class NextTestTest {
         nets.add(Nets.sealedAt(Nets.inverters(32, 1, 32), 31));
         nets.add(Nets.sealedAt(Nets.parity(10), 18));
         nets.add(Nets.sealedAt(Nets.chain(PodemTestGen.KIND_NAND, 10), 12));
+        nets.add(Nets.sealedAt(Nets.pairs(), 0));
         return nets;
     }
 

@@ -49,6 +49,11 @@ public final class TestCountTest {
             z.nextTest();
             Check.due("testCount() after " + i + " calls", z.testCount(), Math.min(i, 11));
         }
+        PodemTestGen most = Nets.sealedAt(Nets.pairs(), 0);
+        for (int i = 1; i <= 40; i++) {
+            most.nextTest();
+            Check.due("testCount() after " + i + " calls", most.testCount(), Math.min(i, 33));
+        }
     }
 
     private static void changesNothing() {

@@ -24,6 +24,11 @@ public final class TestVectorAndTargetTest {
             }
             x.nextTest();
         }
+        PodemTestGen most = Nets.after(Nets.sealedAt(Nets.pairs(), 0), 40);
+        for (int t = 0; t < 33; t++) {
+            Check.due("testVector(" + t + ") of 33", most.testVector(t), Nets.pairVectors()[t]);
+            Check.due("testTarget(" + t + ") of 33", most.testTarget(t), t < 2 ? t : 2 * (t - 1));
+        }
     }
 
     private static void outOfRange() {

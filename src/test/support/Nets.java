@@ -45,6 +45,32 @@ final class Nets {
         return x;
     }
 
+    /**
+     * Ten inputs, the AND of each of 22 pairs of them (those of pairVectors()), and
+     * all 32 nodes marked; not sealed. Each node stuck at 0 needs a vector of its
+     * own, and one more shows input 0 stuck at 1: more tests than nodes.
+     */
+    static PodemTestGen pairs() {
+        PodemTestGen x = inputs(32, 10, 10);
+        // The node limit refuses the pairs past the 22nd.
+        for (int j = 1; j < 10; j++) {
+            for (int i = 0; i < j; i++) {
+                x.addGate(PodemTestGen.KIND_AND, i, j);
+            }
+        }
+        for (int n = 0; n < 32; n++) {
+            x.markOutput(n);
+        }
+        return x;
+    }
+
+    /** The vectors of the 33 tests of pairs(), in their order: input 0, none, each other input, each pair. */
+    static int[] pairVectors() {
+        return new int[] {
+            1, 0, 2, 4, 8, 16, 32, 64, 128, 256, 512,
+            3, 5, 6, 9, 10, 12, 17, 18, 20, 24, 33, 34, 36, 40, 48, 65, 66, 68, 72, 80, 96, 129};
+    }
+
     /** An object of these limits with so many inputs, and nothing else. */
     static PodemTestGen inputs(int nodeLimit, int inputLimit, int inputs) {
         PodemTestGen x = new PodemTestGen(nodeLimit, inputLimit);

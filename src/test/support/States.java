@@ -41,6 +41,8 @@ final class States {
         sealed.add(new State("sealed with room", Nets::sealedWithRoom));
         sealed.add(new State("sealed, one node", () -> Nets.sealedAt(Nets.inputs(8, 1, 1), 0)));
         sealed.add(new State("sealed, parity of ten", () -> Nets.after(Nets.sealedAt(Nets.parity(10), 18), 1)));
+        sealed.add(new State("sealed, with 32 tests of 33", () -> Nets.after(Nets.sealedAt(Nets.pairs(), 0), 32)));
+        sealed.add(new State("sealed, with 33 tests", () -> Nets.after(Nets.sealedAt(Nets.pairs(), 0), 33)));
         sealed.add(new State("sealed, 32 nodes", () -> Nets.sealedAt(Nets.inverters(32, 1, 32), 31)));
         sealed.add(new State("sealed, 32 nodes, midway",
             () -> Nets.after(Nets.sealedAt(Nets.inverters(32, 1, 32), 0), 30)));
